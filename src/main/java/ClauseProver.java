@@ -47,13 +47,13 @@ public final class ClauseProver {
     private static final int CLOSE_SIGN = 6;
     private static final int COMMA = 7;
     private static final int COLON = 8;
-    private static final int NOT = 9;
-    private static final int ALL = 10;
-    private static final int SOME = 11;
-    private static final int AND = 12;
-    private static final int OR = 13;
-    private static final int EQUAL = 14;
-    private static final int UNEQUAL = 15;
+    private static final int EQUAL = 9;
+    private static final int UNEQUAL = 10;
+    private static final int NOT = 11;
+    private static final int ALL = 12;
+    private static final int SOME = 13;
+    private static final int AND = 14;
+    private static final int OR = 15;
     private static final int IMPLIES = 16;
     private static final int EQUIVALENT = 17;
 
@@ -161,7 +161,10 @@ public final class ClauseProver {
             throw new IllegalArgumentException("not 1 .. 100 steps");
         }
         for (int i = 0; i < n && saturation.state == OPEN; i++) {
-            saturation.takeStep();
+            int given = saturation.takeGiven();
+            if (given != NONE) {
+                saturation.inferFrom(given);
+            }
         }
         return saturation.state;
     }
@@ -383,6 +386,9 @@ public final class ClauseProver {
 
     /** Parts the TEXT into WORDS and signs; one of them is the present one. */
     private static final class Words {
+        /** This bit makes a capital letter a small one, and no other byte a letter. */
+        private static final int SMALL = 32;
+
         int[] text;
         int length;
         int kind;
@@ -421,10 +427,10 @@ public final class ClauseProver {
             }
             number++;
             excess = number > MOST_WORDS;
-            if (isLetter(text[next])) {
+            if ((text[next] | SMALL) >= 'a' && (text[next] | SMALL) <= 'z') {
                 takeWord();
             } else {
-                takeSign();
+                takeSign(next + 1 < length ? text[next + 1] : NONE, next + 2 < length ? text[next + 2] : NONE);
             }
             next += size;
         }
@@ -444,16 +450,17 @@ public final class ClauseProver {
         }
 
         private void takeWord() {
-            int stop = next;
-            while (stop < length && isWordSign(text[stop])) {
-                stop++;
+            boolean more = true;
+            while (more && next + size < length) {
+                int c = text[next + size];
+                more = (c | SMALL) >= 'a' && (c | SMALL) <= 'z' || c >= '0' && c <= '9' || c == '_';
+                size += more ? 1 : 0;
             }
-            size = stop - next;
             boolean capital = text[next] <= 'Z';
             kind = size > MOST_SIGNS ? BAD : capital ? VARIABLE : NAME;
         }
 
-        private void takeSign() {
+        private void takeSign(int second, int third) {
             size = 1;
             switch (text[next]) {
                 case '.': kind = DOT; break;
@@ -465,31 +472,22 @@ public final class ClauseProver {
                 case '?': kind = SOME; break;
                 case '&': kind = AND; break;
                 case '|': kind = OR; break;
-                case '!': takeLonger('=', UNEQUAL, ALL); break;
-                case '=': takeLonger('>', IMPLIES, EQUAL); break;
-                case '<': takeEquivalent(); break;
-                default: kind = BAD; break;
+                case '!':
+                    size = second == '=' ? 2 : 1;
+                    kind = second == '=' ? UNEQUAL : ALL;
+                    break;
+                case '=':
+                    size = second == '>' ? 2 : 1;
+                    kind = second == '>' ? IMPLIES : EQUAL;
+                    break;
+                case '<':
+                    size = second == '=' && third == '>' ? 3 : 1;
+                    kind = size == 3 ? EQUIVALENT : BAD;
+                    break;
+                default:
+                    kind = BAD;
+                    break;
             }
-        }
-
-        private void takeLonger(int second, int longKind, int shortKind) {
-            boolean isLong = next + 1 < length && text[next + 1] == second;
-            kind = isLong ? longKind : shortKind;
-            size = isLong ? 2 : 1;
-        }
-
-        private void takeEquivalent() {
-            boolean whole = next + 2 < length && text[next + 1] == '=' && text[next + 2] == '>';
-            kind = whole ? EQUIVALENT : BAD;
-            size = whole ? 3 : 1;
-        }
-
-        private static boolean isLetter(int c) {
-            return c >= 'a' && c <= 'z' || c >= 'A' && c <= 'Z';
-        }
-
-        private static boolean isWordSign(int c) {
-            return isLetter(c) || c >= '0' && c <= '9' || c == '_';
         }
     }
 
@@ -518,7 +516,12 @@ public final class ClauseProver {
         /** The number of the NAME that stands there, a new one if need be, NONE without room. */
         int numberOf(Words words) {
             for (int k = 1; k <= names; k++) {
-                if (nameSize[k] == words.size && isName(k, words.text, words.place)) {
+                int same = 0;
+                while (same < nameSize[k] && same < words.size
+                    && letters.at[nameAt[k] + same] == words.text[words.place + same]) {
+                    same++;
+                }
+                if (same == nameSize[k] && same == words.size) {
                     return k;
                 }
             }
@@ -534,15 +537,6 @@ public final class ClauseProver {
                 letters.add(words.text[words.place + i]);
             }
             return names;
-        }
-
-        private boolean isName(int k, int[] text, int place) {
-            for (int i = 0; i < nameSize[k]; i++) {
-                if (letters.at[nameAt[k] + i] != text[place + i]) {
-                    return false;
-                }
-            }
-            return true;
         }
 
         /** The first use of a NAME says what it is; false if this use is another one. */
@@ -776,38 +770,33 @@ public final class ClauseProver {
             return true;
         }
 
-        /** An ATOM from the starts of its TERMS (NONE behind a PREDICATE). */
-        int addAtom(int kind, int left, int right) {
-            return addNode(kind, left, right, 1, 1, 1);
-        }
-
-        /** ! or ? with a VARIABLE, or ~ with none. */
-        int addUnary(int kind, int part, int variable) {
-            int ifFalse = clausesOf(part, kind == NOT);
-            int ifTrue = clausesOf(part, kind != NOT);
-            return addNode(kind, part, variable, 1 + get(part, HEIGHT), ifFalse, ifTrue);
-        }
-
-        int addBinary(int kind, int first, int second) {
-            int f1 = clausesOf(first, false);
-            int t1 = clausesOf(first, true);
-            int f2 = clausesOf(second, false);
-            int t2 = clausesOf(second, true);
-            int height = 1 + Math.max(get(first, HEIGHT), get(second, HEIGHT));
+        /**
+         * An ATOM from the starts of its TERMS (NONE behind a PREDICATE), ! or ? from its FORMULA and
+         * VARIABLE, the others from their FORMULAS. Counts of CLAUSES stop above the limit, as one
+         * that is used is never beyond it.
+         */
+        int addNode(int kind, int first, int second) {
+            int one = kind >= NOT ? first * NODE : NONE;
+            int two = kind >= AND ? second * NODE : NONE;
+            int f1 = one == NONE ? 1 : nodes.at[one + IF_FALSE];
+            int t1 = one == NONE ? 1 : nodes.at[one + IF_TRUE];
+            int f2 = two == NONE ? 1 : nodes.at[two + IF_FALSE];
+            int t2 = two == NONE ? 1 : nodes.at[two + IF_TRUE];
+            int ifFalse = f1;
+            int ifTrue = t1;
             switch (kind) {
-                case AND: return addNode(kind, first, second, height, f1 * f2, t1 + t2);
-                case OR: return addNode(kind, first, second, height, f1 + f2, t1 * t2);
-                case IMPLIES: return addNode(kind, first, second, height, t1 + f2, f1 * t2);
-                default: return addNode(kind, first, second, height, t1 * t2 + f1 * f2, f1 * t2 + f2 * t1);
+                case NOT: ifFalse = t1; ifTrue = f1; break;
+                case AND: ifFalse = f1 * f2; ifTrue = t1 + t2; break;
+                case OR: ifFalse = f1 + f2; ifTrue = t1 * t2; break;
+                case IMPLIES: ifFalse = t1 + f2; ifTrue = f1 * t2; break;
+                case EQUIVALENT: ifFalse = t1 * t2 + f1 * f2; ifTrue = f1 * t2 + f2 * t1; break;
+                default: break;
             }
-        }
-
-        /** Counts stop above the limit: one that is used is never beyond it. */
-        private int addNode(int kind, int first, int second, int height, int ifFalse, int ifTrue) {
+            int height = Math.max(one == NONE ? 0 : nodes.at[one + HEIGHT], two == NONE ? 0 : nodes.at[two + HEIGHT]);
             nodes.add(kind);
             nodes.add(first);
             nodes.add(second);
-            nodes.add(height);
+            nodes.add(height + 1);
             nodes.add(Math.min(ifFalse, MOST_TEXT_CLAUSES + 1));
             nodes.add(Math.min(ifTrue, MOST_TEXT_CLAUSES + 1));
             nodes.add(0);
@@ -824,7 +813,9 @@ public final class ClauseProver {
 
         /** Finds the VARIABLES that are replaced somewhere, and makes their SYMBOLS. */
         void makeWitnesses() {
-            Arrays.fill(replaced, false);
+            for (int v = 0; v < variables; v++) {
+                replaced[v] = false;
+            }
             for (int s = 0; s < sentences.size; s += SENTENCE) {
                 boolean prove = sentences.at[s + PROVE] == 1;
                 reach(sentences.at[s + ROOT], prove ? 1 : 2);
@@ -960,7 +951,7 @@ public final class ClauseProver {
                     break;
                 case AND:
                 case OR:
-                    joined(kind == AND == truth, first, truth, second, truth, i);
+                    joined((kind == AND) == truth, first, truth, second, truth, i);
                     break;
                 case IMPLIES:
                     joined(!truth, first, !truth, second, truth, i);
@@ -969,7 +960,7 @@ public final class ClauseProver {
                     equivalent(first, second, truth, i);
                     break;
                 default:
-                    writeLiteral(draft, kind == EQUAL == truth, first, second);
+                    writeLiteral(draft, (kind == EQUAL) == truth, first, second);
                     break;
             }
         }
@@ -987,7 +978,7 @@ public final class ClauseProver {
 
         /** Both together have the CLAUSES of one, then of the other; one of them: each with each. */
         private void joined(boolean both, int first, boolean isFirst, int second, boolean isSecond, int i) {
-            int width = clausesOf(both ? first : second, both ? isFirst : isSecond);
+            int width = Math.max(1, clausesOf(both ? first : second, both ? isFirst : isSecond));
             if (!both) {
                 later(second, isSecond, i % width);
                 later(first, isFirst, i / width);
@@ -1024,7 +1015,7 @@ public final class ClauseProver {
         /** WITNESSES double with each level, so the BOUNDS end this long before the guard does. */
         private void writeVariable(Draft draft, int v, int depth) {
             if (!replaced[v]) {
-                draft.putVariable(v);
+                draft.put(draft.cellOf(v));
                 return;
             }
             draft.put(witness[v]);
@@ -1064,7 +1055,8 @@ public final class ClauseProver {
                 openSentence();
                 boolean more = true;
                 for (int j = 0; j < FAR && more; j++) {
-                    takeUnit();
+                    takePrefixes();
+                    takeAtom();
                     more = fault == 0 && takeSign();
                 }
             }
@@ -1092,10 +1084,10 @@ public final class ClauseProver {
             fail(words.excess ? TOO_LARGE : CANNOT_STAND, words.place);
         }
 
-        /** All that may stand before an ATOM, and the ATOM. */
-        private void takeUnit() {
-            boolean before = true;
-            for (int i = 0; i < FAR && before && fault == 0; i++) {
+        /** All that may stand before an ATOM. */
+        private void takePrefixes() {
+            boolean more = true;
+            for (int i = 0; i < FAR && more && fault == 0; i++) {
                 if (depth > DEEPEST) {
                     fail(TOO_LARGE, words.place);
                 } else if (words.isNow(NOT) || words.isNow(OPEN_SIGN)) {
@@ -1104,8 +1096,7 @@ public final class ClauseProver {
                 } else if (words.isNow(ALL) || words.isNow(SOME)) {
                     takeBound();
                 } else {
-                    before = false;
-                    takeAtom();
+                    more = false;
                 }
             }
         }
@@ -1130,6 +1121,9 @@ public final class ClauseProver {
         }
 
         private void takeAtom() {
+            if (fault != 0) {
+                return;
+            }
             int place = words.place;
             int left = formulas.terms.size;
             if (words.isNow(VARIABLE)) {
@@ -1147,7 +1141,7 @@ public final class ClauseProver {
             if (equation) {
                 takeEquation(left);
             } else {
-                parts.add(formulas.addAtom(EQUAL, left, NONE));
+                parts.add(formulas.addNode(EQUAL, left, NONE));
             }
         }
 
@@ -1163,7 +1157,7 @@ public final class ClauseProver {
             words.advance();
             int right = formulas.terms.size;
             takeTerm(depth);
-            parts.add(formulas.addAtom(kind, left, right));
+            parts.add(formulas.addNode(kind, left, right));
         }
 
         private void takeTerm(int deep) {
@@ -1346,27 +1340,22 @@ public final class ClauseProver {
 
         private void foldTop() {
             int sign = top();
-            int last = parts.at[parts.size - 1];
+            int whole = parts.at[parts.size - 1];
             if (sign == NOT) {
-                parts.at[parts.size - 1] = formulas.addUnary(NOT, last, NONE);
+                whole = formulas.addNode(NOT, whole, NONE);
             } else if (sign == ALL || sign == SOME) {
-                parts.at[parts.size - 1] = foldBound(sign, last);
+                int v = formulas.scope;
+                for (int i = 0; i < MOST_BOUND && v >= firstBound.at[firstBound.size - 1]; i++) {
+                    whole = formulas.addNode(sign, whole, v);
+                    v = formulas.outer[v];
+                }
+                formulas.scope = v;
             } else {
                 parts.size--;
-                int first = parts.at[parts.size - 1];
-                parts.at[parts.size - 1] = formulas.addBinary(sign, first, last);
+                whole = formulas.addNode(sign, parts.at[parts.size - 1], whole);
             }
+            parts.at[parts.size - 1] = whole;
             pop();
-        }
-
-        private int foldBound(int sign, int part) {
-            int first = firstBound.at[firstBound.size - 1];
-            int whole = part;
-            for (int v = formulas.scope; v >= first; v = formulas.outer[v]) {
-                whole = formulas.addUnary(sign, whole, v);
-            }
-            formulas.scope = formulas.outer[first];
-            return whole;
         }
     }
 
@@ -1378,12 +1367,14 @@ public final class ClauseProver {
         final boolean[] positive = new boolean[MOST_LITERALS];
         int used;
         int literals;
+        /** How many VARIABLES are in it, once it is REDUCED. */
         int variables;
         /** It went beyond the BOUNDS, and what it holds is of no use. */
         boolean beyond;
         private final Symbols symbols;
         private final int[] slot = new int[MOST_BOUND];
         private final int[] met = new int[MOST_VARIABLES];
+        private int metSize;
         private final int[] renamed = new int[MOST_VARIABLES];
 
         Draft(Symbols symbols) {
@@ -1392,12 +1383,12 @@ public final class ClauseProver {
         }
 
         void clear() {
-            for (int i = 0; i < variables && i < met.length; i++) {
+            for (int i = 0; i < metSize; i++) {
                 slot[met[i]] = NONE;
             }
+            metSize = 0;
             used = 0;
             literals = 0;
-            variables = 0;
             beyond = false;
         }
 
@@ -1432,16 +1423,15 @@ public final class ClauseProver {
             }
         }
 
-        void putVariable(int v) {
-            if (slot[v] == NONE) {
-                if (variables == MOST_VARIABLES) {
-                    beyond = true;
-                    return;
-                }
-                met[variables] = v;
-                slot[v] = variables++;
+        /** What a VARIABLE is written as: those of one CLAUSE get numbers as they come. */
+        int cellOf(int v) {
+            if (slot[v] == NONE && metSize == MOST_VARIABLES) {
+                beyond = true;
+            } else if (slot[v] == NONE) {
+                met[metSize] = v;
+                slot[v] = metSize++;
             }
-            put(~slot[v]);
+            return ~Math.max(slot[v], 0);
         }
 
         /** A copy of a CLAUSE, with its VARIABLES as they are. */
@@ -1475,16 +1465,18 @@ public final class ClauseProver {
             }
         }
 
-        /** Makes it REDUCED. What putVariable knows of its VARIABLES ends here. */
+        /** Makes it REDUCED. */
         void reduce() {
-            clearSlots();
             int kept = 0;
             int free = 0;
             for (int i = 0; i < literals; i++) {
                 int from = start[i];
                 int size = start[i + 1] - from;
                 int left = middle[i] - from;
-                boolean goes = !positive[i] && symbols.same(cell, from, cell, middle[i]) || cameBefore(i, kept);
+                boolean goes = !positive[i] && isSame(from, left, middle[i], size - left);
+                for (int j = 0; j < kept && !goes; j++) {
+                    goes = positive[j] == positive[i] && hasSameSides(i, j);
+                }
                 if (!goes) {
                     System.arraycopy(cell, from, cell, free, size);
                     positive[kept] = positive[i];
@@ -1492,59 +1484,53 @@ public final class ClauseProver {
                     middle[kept] = free + left;
                     kept++;
                     free += size;
+                    start[kept] = free;
                 }
             }
             literals = kept;
             used = free;
-            start[kept] = free;
             renumber();
         }
 
-        private void clearSlots() {
-            for (int i = 0; i < variables && i < met.length; i++) {
-                slot[met[i]] = NONE;
-            }
-            variables = 0;
+        private boolean hasSameSides(int i, int j) {
+            int left = middle[i] - start[i];
+            int right = start[i + 1] - middle[i];
+            int otherLeft = middle[j] - start[j];
+            int otherRight = start[j + 1] - middle[j];
+            return isSame(start[i], left, start[j], otherLeft) && isSame(middle[i], right, middle[j], otherRight)
+                || isSame(start[i], left, middle[j], otherRight) && isSame(middle[i], right, start[j], otherLeft);
         }
 
-        private boolean cameBefore(int i, int kept) {
-            for (int j = 0; j < kept; j++) {
-                if (positive[j] == positive[i] && sameSides(i, j)) {
-                    return true;
-                }
+        private boolean isSame(int p, int n, int q, int m) {
+            boolean same = n == m;
+            for (int i = 0; i < n && same; i++) {
+                same = cell[p + i] == cell[q + i];
             }
-            return false;
-        }
-
-        private boolean sameSides(int i, int j) {
-            int left = start[i];
-            int right = middle[i];
-            return symbols.same(cell, left, cell, start[j]) && symbols.same(cell, right, cell, middle[j])
-                || symbols.same(cell, left, cell, middle[j]) && symbols.same(cell, right, cell, start[j]);
+            return same;
         }
 
         private void renumber() {
             Arrays.fill(renamed, NONE);
-            int numbers = 0;
+            variables = 0;
             for (int p = 0; p < used; p++) {
                 if (cell[p] < 0) {
                     int v = ~cell[p];
                     if (renamed[v] == NONE) {
-                        renamed[v] = numbers++;
+                        renamed[v] = variables++;
                     }
                     cell[p] = ~renamed[v];
                 }
             }
-            variables = numbers;
         }
 
         boolean isTautology() {
             for (int i = 0; i < literals; i++) {
-                if (positive[i] && symbols.same(cell, start[i], cell, middle[i])) {
+                int left = middle[i] - start[i];
+                if (positive[i] && isSame(start[i], left, middle[i], start[i + 1] - middle[i])) {
                     return true;
                 }
                 for (int j = 0; j < i; j++) {
-                    if (positive[i] != positive[j] && sameSides(i, j)) {
+                    if (positive[i] != positive[j] && hasSameSides(i, j)) {
                         return true;
                     }
                 }
@@ -1732,42 +1718,40 @@ public final class ClauseProver {
                 }
             }
             for (int j = 0; j < 2; j++) {
-                if ((twoLeft >> j & 1) == 1 && !hasGreaterSide(one, oneLeft, sideAt(two, j))) {
+                boolean below = (twoLeft >> j & 1) == 0;
+                for (int i = 0; i < 2 && !below; i++) {
+                    below = (oneLeft >> i & 1) == 1
+                        && symbols.greater(cells.at, sideAt(one, i), cells.at, sideAt(two, j));
+                }
+                if (!below) {
                     return false;
                 }
             }
             return oneLeft != 0;
         }
-
-        private boolean hasGreaterSide(int head, int sides, int p) {
-            for (int i = 0; i < 2; i++) {
-                if ((sides >> i & 1) == 1 && symbols.greater(cells.at, sideAt(head, i), cells.at, p)) {
-                    return true;
-                }
-            }
-            return false;
-        }
     }
 
     /**
-     * The most general values that make TERMS of at most two CLAUSES the same. A VARIABLE's slot is
-     * its number, with shift more for the second CLAUSE; a slot has another one, a TERM or nothing.
+     * The most general values that make TERMS of at most two CLAUSES the same. A VARIABLE has a slot,
+     * its number, with SECOND more in the second CLAUSE. Slots that became one have the same root, and
+     * a root has a TERM as its value, or none.
      */
     private static final class Unifier {
         static final int SECOND = MOST_VARIABLES;
         private static final int SLOTS = 2 * MOST_VARIABLES;
         private static final int CLAUSE_CELLS = MOST_WEIGHT + MOST_LITERALS * Store.HEAD;
-        private static final int GUARD = 60;
+        /** Each level goes into one more value, and no value is within itself. */
+        private static final int DEEP = 4 * SLOTS;
 
         private final Symbols symbols;
         private final Row cells;
-        private final int[] alias = new int[SLOTS];
+        private final int[] root = new int[SLOTS];
         private final int[] place = new int[SLOTS];
         private final int[] shifts = new int[SLOTS];
         private int valued;
         private int firstBase;
         private int secondBase;
-        /** In which unification a slot met a TERM: doing so again would take exponential time. */
+        /** In which unification a slot met a TERM: to do so again could take exponential time. */
         private final int[] meetings = new int[SLOTS * 2 * CLAUSE_CELLS];
         private int unification;
 
@@ -1778,16 +1762,18 @@ public final class ClauseProver {
 
         /** Begins anew, for CLAUSES that lie at these places. */
         void clear(int firstStart, int secondStart) {
-            Arrays.fill(alias, NONE);
-            Arrays.fill(place, NONE);
+            for (int x = 0; x < SLOTS; x++) {
+                root[x] = x;
+                place[x] = NONE;
+            }
             valued = 0;
             firstBase = firstStart;
             secondBase = secondStart;
             unification++;
         }
 
-        boolean unite(int p, int pShift, int q, int qShift, int depth) {
-            if (depth > GUARD) {
+        private boolean unite(int p, int pShift, int q, int qShift, int depth) {
+            if (depth > DEEP) {
                 return false;
             }
             int[] c = cells.at;
@@ -1814,8 +1800,8 @@ public final class ClauseProver {
         }
 
         private boolean uniteVariable(int p, int pShift, int q, int qShift, int depth) {
-            int x = cells.at[p] < 0 ? rootOf(~cells.at[p] + pShift) : NONE;
-            int y = cells.at[q] < 0 ? rootOf(~cells.at[q] + qShift) : NONE;
+            int x = cells.at[p] < 0 ? root[~cells.at[p] + pShift] : NONE;
+            int y = cells.at[q] < 0 ? root[~cells.at[q] + qShift] : NONE;
             if (x == y) {
                 return true;
             }
@@ -1825,18 +1811,10 @@ public final class ClauseProver {
             if (y == NONE) {
                 return meet(x, q, qShift, depth);
             }
-            return place[x] == NONE ? join(x, y, depth) : join(y, x, depth);
+            return join(x, y, depth);
         }
 
-        private int rootOf(int slot) {
-            int x = slot;
-            for (int i = 0; i < SLOTS && alias[x] != NONE; i++) {
-                x = alias[x];
-            }
-            return x;
-        }
-
-        /** A slot meets a TERM that is no VARIABLE. */
+        /** A root meets a TERM that is no VARIABLE. */
         private boolean meet(int x, int p, int shift, int depth) {
             if (place[x] == NONE) {
                 if (symbols.isPredicate(cells.at[p]) || occurs(x, p, shift)) {
@@ -1858,33 +1836,37 @@ public final class ClauseProver {
             return unite(place[x], shifts[x], p, shift, depth + 1);
         }
 
-        /** Two slots become one, y. */
+        /** Two roots become one, and their values the same. */
         private boolean join(int x, int y, int depth) {
-            int p = place[x];
-            int q = place[y];
-            if (q != NONE && occurs(x, q, shifts[y]) || p != NONE && occurs(y, p, shifts[x])) {
+            if (place[y] != NONE && occurs(x, place[y], shifts[y])
+                || place[x] != NONE && occurs(y, place[x], shifts[x])) {
                 return false;
             }
-            alias[x] = y;
-            valued &= ~(1 << x);
-            return p == NONE || unite(p, shifts[x], q, shifts[y], depth + 1);
+            int goes = place[x] == NONE ? x : y;
+            int stays = x + y - goes;
+            for (int slot = 0; slot < SLOTS; slot++) {
+                root[slot] = root[slot] == goes ? stays : root[slot];
+            }
+            valued &= ~(1 << goes);
+            return place[goes] == NONE
+                || unite(place[goes], shifts[goes], place[stays], shifts[stays], depth + 1);
         }
 
-        /** Is the slot in the TERM, or in a value within it; each value is looked at once. */
-        private boolean occurs(int slot, int p, int shift) {
+        /** Is the root in the TERM, or in a value within it; each value is looked at once. */
+        private boolean occurs(int x, int p, int shift) {
             int found = 0;
             int done = 0;
             int from = p;
             int fromShift = shift;
             for (int round = 0; round <= SLOTS; round++) {
-                int stop = symbols.after(cells.at, from);
-                for (int i = from; i < stop; i++) {
-                    if (cells.at[i] < 0) {
-                        found |= 1 << rootOf(~cells.at[i] + fromShift);
-                    }
+                int need = 1;
+                for (int i = from; need > 0 && i < cells.size; i++) {
+                    int c = cells.at[i];
+                    need += c < 0 ? -1 : symbols.arity[c] - 1;
+                    found |= c < 0 ? 1 << root[~c + fromShift] : 0;
                 }
                 int fresh = found & valued & ~done;
-                if ((found >> slot & 1) == 1 || fresh == 0) {
+                if ((found >> x & 1) == 1 || fresh == 0) {
                     break;
                 }
                 int next = Integer.numberOfTrailingZeros(fresh);
@@ -1892,20 +1874,18 @@ public final class ClauseProver {
                 from = place[next];
                 fromShift = shifts[next];
             }
-            return (found >> slot & 1) == 1;
+            return (found >> x & 1) == 1;
         }
 
         /** Writes cells with the values of their VARIABLES. */
-        void write(Draft draft, int from, int to, int shift, int depth) {
+        private void write(Draft draft, int from, int to, int shift, int depth) {
             for (int i = from; i < to && !draft.beyond && depth <= SLOTS; i++) {
                 int c = cells.at[i];
-                if (c >= 0) {
+                int x = c < 0 ? root[~c + shift] : NONE;
+                if (x == NONE) {
                     draft.put(c);
-                    continue;
-                }
-                int x = rootOf(~c + shift);
-                if (place[x] == NONE) {
-                    draft.putVariable(x);
+                } else if (place[x] == NONE) {
+                    draft.put(draft.cellOf(x));
                 } else {
                     write(draft, place[x], symbols.after(cells.at, place[x]), shifts[x], depth + 1);
                 }
@@ -1954,7 +1934,7 @@ public final class ClauseProver {
             return true;
         }
 
-        /** Could this side of the single = of CLAUSE k REWRITE the TERM at t; the image is by what. */
+        /** Could this side of the single = of CLAUSE k REWRITE the TERM at t: the image is what by. */
         private boolean rewrites(int k, int side, int[] target, int t) {
             int head = store.fact(k, Store.START);
             int left = store.sideAt(head, side);
@@ -2025,38 +2005,41 @@ public final class ClauseProver {
             return false;
         }
 
+        /** LITERALS that are none of d's even alone are found first: trying all ways is dear. */
         boolean subsumes(int c, int d) {
             int literals = store.fact(c, Store.LITERALS);
+            boolean may = literals <= store.fact(d, Store.LITERALS);
+            int head = store.fact(c, Store.START);
+            for (int i = 0; i < literals && may; i++) {
+                known = 0;
+                may = coversAll(head, 1, d);
+                head = store.behind(head);
+            }
             known = 0;
-            return literals <= store.fact(d, Store.LITERALS) && coversAll(store.fact(c, Store.START), literals, d);
+            return may && (literals == 1 || coversAll(store.fact(c, Store.START), literals, d));
         }
 
-        /** Can this LITERAL, and all behind it, how many are left, be LITERALS of d. */
-        private boolean coversAll(int head, int left, int d) {
-            if (left <= 0) {
+        /** Can the LITERAL at this head, and those behind it, so many in all, be LITERALS of d. */
+        private boolean coversAll(int head, int literals, int d) {
+            if (literals <= 0) {
                 return true;
             }
             int before = known;
             int other = store.fact(d, Store.START);
             for (int i = 0; i < store.fact(d, Store.LITERALS); i++) {
-                for (int side = 0; side < 2; side++) {
+                for (int side = 0; side < 2 && store.isPositive(head) == store.isPositive(other); side++) {
                     known = before;
-                    if (covers(head, other, side) && coversAll(store.behind(head), left - 1, d)) {
+                    int left = store.sideAt(other, side);
+                    int right = store.sideAt(other, 1 - side);
+                    if (matches(store.sideAt(head, 0), store.sideSize(head, 0), store.cells.at, left)
+                        && matches(store.sideAt(head, 1), store.sideSize(head, 1), store.cells.at, right)
+                        && coversAll(store.behind(head), literals - 1, d)) {
                         return true;
                     }
                 }
                 other = store.behind(other);
             }
-            known = before;
             return false;
-        }
-
-        /** The left side is matched with that side of the other, and the right side with the rest. */
-        private boolean covers(int head, int other, int side) {
-            int[] c = store.cells.at;
-            return store.isPositive(head) == store.isPositive(other)
-                && matches(store.sideAt(head, 0), store.sideSize(head, 0), c, store.sideAt(other, side))
-                && matches(store.sideAt(head, 1), store.sideSize(head, 1), c, store.sideAt(other, 1 - side));
         }
     }
 
@@ -2070,6 +2053,7 @@ public final class ClauseProver {
         int rewritten;
         int tautologies;
         final Row proofRow = new Row(16);
+        private final Symbols symbols;
         private final Store store;
         private final Draft draft;
         private final Unifier unifier;
@@ -2077,6 +2061,7 @@ public final class ClauseProver {
         private final Row singles = new Row(16);
 
         Saturation(Symbols symbols, Store store, Draft draft) {
+            this.symbols = symbols;
             this.store = store;
             this.draft = draft;
             this.unifier = new Unifier(symbols, store.cells);
@@ -2094,11 +2079,12 @@ public final class ClauseProver {
             proofRow.size = 0;
         }
 
-        void takeStep() {
+        /** Begins a STEP: the GIVEN, PROCESSED, or NONE if nothing is to be inferred from it. */
+        int takeGiven() {
             int given = choose();
             if (given == NONE) {
                 state = SATURATED;
-                return;
+                return NONE;
             }
             steps++;
             store.setFact(given, Store.STATUS, GONE);
@@ -2106,22 +2092,20 @@ public final class ClauseProver {
                 given = rewrite(given);
             }
             if (given == NONE) {
-                return;
+                return NONE;
             }
             if (store.fact(given, Store.LITERALS) == 0) {
                 refute(given);
-                return;
+                return NONE;
             }
             if (isSubsumed(given)) {
                 subsumed++;
-                return;
+                return NONE;
             }
             clearAway(given);
             store.setFact(given, Store.STATUS, PROCESSED);
             store.judge(given);
-            inferWithAll(given);
-            resolve(given);
-            factor(given);
+            return given;
         }
 
         private int choose() {
@@ -2256,7 +2240,7 @@ public final class ClauseProver {
             }
         }
 
-        private void inferWithAll(int given) {
+        void inferFrom(int given) {
             int last = store.size;
             for (int k = 0; k < last && state == OPEN; k++) {
                 if (isProcessed(k)) {
@@ -2266,31 +2250,26 @@ public final class ClauseProver {
                     }
                 }
             }
+            if (store.selectedOf(given) == NONE) {
+                factor(given);
+            } else {
+                resolve(given, store.selectedOf(given));
+            }
         }
 
+        /** Goes through the sides of a, and for each of them through those of b. */
         private void superpose(int a, int b) {
-            int head = store.fact(a, Store.START);
-            for (int i = 0; i < store.fact(a, Store.LITERALS); i++) {
-                if (store.isPositive(head) && store.isEligible(head)) {
-                    superposeFrom(a, head, 0, b);
-                    superposeFrom(a, head, 1, b);
-                }
-                head = store.behind(head);
-            }
-        }
-
-        private void superposeFrom(int a, int headA, int sideA, int b) {
-            if (!store.isUsable(headA, sideA)) {
-                return;
-            }
-            int head = store.fact(b, Store.START);
-            for (int i = 0; i < store.fact(b, Store.LITERALS); i++) {
-                for (int side = 0; side < 2; side++) {
-                    if (store.isEligible(head) && store.isUsable(head, side)) {
-                        superposeInto(a, headA, sideA, b, head, side);
+            int sidesA = 2 * store.fact(a, Store.LITERALS);
+            int sidesB = 2 * store.fact(b, Store.LITERALS);
+            for (int i = 0; i < sidesA; i++) {
+                int headA = store.headOf(a, i >> 1);
+                boolean may = store.isPositive(headA) && store.isEligible(headA) && store.isUsable(headA, i & 1);
+                for (int j = 0; j < sidesB && may; j++) {
+                    int headB = store.headOf(b, j >> 1);
+                    if (store.isEligible(headB) && store.isUsable(headB, j & 1)) {
+                        superposeInto(a, headA, i & 1, b, headB, j & 1);
                     }
                 }
-                head = store.behind(head);
             }
         }
 
@@ -2352,7 +2331,7 @@ public final class ClauseProver {
             int image = store.sideAt(headA, side);
             unifier.write(draft, from, u, Unifier.SECOND, 0);
             unifier.write(draft, image, image + store.sideSize(headA, side), 0, 0);
-            unifier.write(draft, unifier.symbols.after(store.cells.at, u), to, Unifier.SECOND, 0);
+            unifier.write(draft, symbols.after(store.cells.at, u), to, Unifier.SECOND, 0);
         }
 
         /** One more INFERENCE: it is in the draft. */
@@ -2373,24 +2352,18 @@ public final class ClauseProver {
         }
 
         /** Where there is a != at all, the SELECTED one alone is ELIGIBLE. */
-        private void resolve(int given) {
-            int head = store.selectedOf(given);
-            if (state != OPEN || head == NONE) {
-                return;
-            }
+        private void resolve(int given, int head) {
             int start = store.fact(given, Store.START);
             unifier.clear(start, start);
-            if (unifier.unite(store.sideAt(head, 0), 0, store.sideAt(head, 1), 0, 0)) {
+            if (state == OPEN && unifier.unite(store.sideAt(head, 0), 0, store.sideAt(head, 1), 0, 0)) {
                 draft.clear();
                 writeOthers(given, head, NONE, 0);
                 keep(RESOLUTION, given, NONE);
             }
         }
 
+        /** Comes only where no LITERAL is a !=. */
         private void factor(int given) {
-            if (store.selectedOf(given) != NONE) {
-                return;
-            }
             int literals = store.fact(given, Store.LITERALS);
             for (int i = 0; i < literals; i++) {
                 int one = store.headOf(given, i);
@@ -2442,7 +2415,7 @@ public final class ClauseProver {
         private final int[] element = new int[MOST_VARIABLES];
         private final int[] values = new int[MOST_WEIGHT + 1];
         private int seed;
-        private int elements;
+        private int elements = 1;
 
         Model(Symbols symbols, Store store) {
             this.symbols = symbols;
@@ -2493,7 +2466,8 @@ public final class ClauseProver {
                 int left = store.sideAt(head, 0);
                 int right = store.sideAt(head, 1);
                 int stop = store.behind(head);
-                if (valueOf(left, right) == valueOf(right, stop) == store.isPositive(head)) {
+                boolean same = valueOf(left, right) == valueOf(right, stop);
+                if (same == store.isPositive(head)) {
                     return true;
                 }
                 head = stop;

@@ -1,0 +1,774 @@
+import java.util.NoSuchElementException;
+
+/**
+ * The promises of the document, one after the other: ordinary inputs, the edges that it names, and
+ * wrong inputs. What is due was worked out by hand from the document.
+ */
+public final class PromiseTests {
+    private static final String SOCRATES = "man(socrates). man(X) => mortal(X). prove mortal(socrates).";
+    private static final String STATE = "IllegalStateException";
+    private static final String ARGUMENT = "IllegalArgumentException";
+    private static final String ELEMENT = "NoSuchElementException";
+    private static final String INDEX = "IndexOutOfBoundsException";
+
+    private static int wrong = 0;
+    private static int checked = 0;
+    private static int promise = 0;
+
+    private PromiseTests() {
+    }
+
+    /** A call that is expected to throw. */
+    private interface Call {
+        int make();
+    }
+
+    public static void main(String[] args) {
+        newObject();
+        feed();
+        end();
+        read();
+        faultsOfWords();
+        faultsOfNames();
+        faultsOfDepth();
+        faultsOfNumbers();
+        faultsOfSentences();
+        run();
+        clause();
+        rewrote();
+        literal();
+        show();
+        clausesOfFormulas();
+        witnesses();
+        out();
+        symbol();
+        proof();
+        step();
+        look();
+        search();
+        count();
+        inferences();
+        simplification();
+        full();
+        System.out.println(checked + " answers were looked at, " + wrong + " are wrong");
+        System.exit(wrong == 0 ? 0 : 1);
+    }
+
+    private static void due(String what, int got, int want) {
+        checked++;
+        if (got != want) {
+            wrong++;
+            System.out.println("promise " + promise + ": " + what + " answered " + got + ", due is " + want);
+        }
+    }
+
+    private static void due(String what, String got, String want) {
+        checked++;
+        if (!got.equals(want)) {
+            wrong++;
+            System.out.println("promise " + promise + ": " + what + " answered " + got + ", due is " + want);
+        }
+    }
+
+    private static void dueThrow(String what, Call call, String want) {
+        String got;
+        try {
+            got = String.valueOf(call.make());
+        } catch (RuntimeException e) {
+            got = e.getClass().getSimpleName();
+        }
+        due(what, got, want);
+    }
+
+    private static ClauseProver fed(String text) {
+        ClauseProver p = new ClauseProver();
+        feedText(p, text);
+        return p;
+    }
+
+    private static void feedText(ClauseProver p, String text) {
+        int[] n = new int[5];
+        int before = p.count(12);
+        for (int i = 0; i < text.length(); i += 20) {
+            for (int j = 0; j < 5; j++) {
+                n[j] = 0;
+                for (int k = i + 4 * j; k < i + 4 * j + 4; k++) {
+                    n[j] = n[j] << 8 | (k < text.length() ? text.charAt(k) : 0);
+                }
+            }
+            p.feed(n[0], n[1], n[2], n[3], n[4]);
+        }
+        p.end(before + text.length());
+    }
+
+    private static ClauseProver prover(String text) {
+        ClauseProver p = fed(text);
+        p.read();
+        return p;
+    }
+
+    private static String shown(ClauseProver p, int k) {
+        int length = p.show(k);
+        StringBuilder text = new StringBuilder();
+        for (int i = 0; i < length; i++) {
+            text.append((char) p.out(i));
+        }
+        return text.toString();
+    }
+
+    private static String allShown(ClauseProver p) {
+        StringBuilder text = new StringBuilder();
+        for (int k = 0; k < p.count(0); k++) {
+            text.append(shown(p, k)).append(". ");
+        }
+        return text.toString().trim();
+    }
+
+    private static String facts(ClauseProver p, int k) {
+        StringBuilder text = new StringBuilder();
+        for (int what = 0; what < 8; what++) {
+            text.append(what > 0 ? " " : "").append(p.clause(k, what));
+        }
+        return text.toString();
+    }
+
+    private static String times(String text, int n) {
+        return text.repeat(Math.max(0, n));
+    }
+
+    private static void newObject() {
+        promise = 1;
+        ClauseProver p = new ClauseProver();
+        int[] counts = {0, 0, 0, 0, 0, 0, 0, 0, 0, 0, 0, 1, 0, 0};
+        for (int what = 0; what < counts.length; what++) {
+            due("count(" + what + ")", p.count(what), counts[what]);
+        }
+        due("fault(0)", p.fault(0), 0);
+        due("fault(1)", p.fault(1), 0);
+        due("proof()", p.proof(), 0);
+        due("look(3, 2)", p.look(3, 2), 0);
+        due("search(3, 2, 5)", p.search(3, 2, 5), 0);
+        dueThrow("out(0)", () -> p.out(0), INDEX);
+        dueThrow("clause(0, 0)", () -> p.clause(0, 0), ELEMENT);
+        due("run(1)", p.run(1), 2);
+    }
+
+    private static void feed() {
+        promise = 2;
+        ClauseProver p = new ClauseProver();
+        due("feed", p.feed(0x61203d20, 0x622e2020, 0x20202020, 0x20202020, 0x20202063), 20);
+        due("feed", p.feed(0x20213d20, 0x622e0a0d, 0x09202525, 0xff80ff00, -1), 40);
+        due("read of both", p.read(), 2);
+        due("clauses", allShown(p), "a = b. c != b.");
+        ClauseProver full = new ClauseProver();
+        for (int i = 1; i <= 3276; i++) {
+            if (full.feed(0, 0, 0, 0, 0) != 20 * i) {
+                due("feed " + i, -1, 20 * i);
+            }
+        }
+        dueThrow("feed at 65,520", () -> full.feed(0, 0, 0, 0, 0), STATE);
+        due("length after the throw", full.count(12), 65520);
+        full.end(65517);
+        dueThrow("feed at 65,517", () -> full.feed(0, 0, 0, 0, 0), STATE);
+        full.end(65516);
+        due("feed at 65,516", full.feed(0, 0, 0, 0, 0), 65536);
+        dueThrow("feed at 65,536", () -> full.feed(0, 0, 0, 0, 0), STATE);
+    }
+
+    private static void end() {
+        promise = 3;
+        ClauseProver p = fed("a. b. c. d. e. f. g.");
+        due("end(20)", p.end(20), 20);
+        dueThrow("end(21)", () -> p.end(21), ARGUMENT);
+        dueThrow("end(-1)", () -> p.end(-1), ARGUMENT);
+        due("length", p.count(12), 20);
+        due("end(8)", p.end(8), 8);
+        dueThrow("end(9)", () -> p.end(9), ARGUMENT);
+        due("read", p.read(), 3);
+        due("end(0)", p.end(0), 0);
+        dueThrow("end(1)", () -> p.end(1), ARGUMENT);
+    }
+
+    private static void read() {
+        promise = 4;
+        ClauseProver p = prover(SOCRATES);
+        due("clauses", p.count(1), 3);
+        due("the tape is empty", p.count(12), 0);
+        due("run", p.run(100), 1);
+        due("show", p.show(0), 13);
+        feedText(p, "a | b. c = d.");
+        due("read", p.read(), 2);
+        int[] counts = {2, 2, 2, 0, 0, 0, 0, 0, 0, 0, 0, 5, 0, 13};
+        for (int what = 0; what < counts.length; what++) {
+            due("count(" + what + ") of the new text", p.count(what), counts[what]);
+        }
+        due("proof", p.proof(), 0);
+        due("out stays", p.out(12), ')');
+        feedText(p, "a. a(b).");
+        due("read with a fault", p.read(), -1);
+        due("clauses", p.count(0), 0);
+        due("symbols", p.count(11), 1);
+        due("the tape", p.count(12), 0);
+        due("state", p.count(10), 0);
+        dueThrow("symbol(1, 0)", () -> p.symbol(1, 0), ELEMENT);
+        due("run", p.run(1), 2);
+        due("read of nothing", p.read(), 0);
+        due("no fault", p.fault(0), 0);
+        due("open", p.count(10), 0);
+        due("tautologies are none", prover("a | ~a. b = b. c.").count(1), 1);
+    }
+
+    /** The FAULT of a TEXT and its place. */
+    private static void fault(String text, int kind, int place) {
+        promise = 5;
+        ClauseProver p = fed(text);
+        String name = text.length() > 60 ? text.substring(0, 60) + ".." : text;
+        int answer = p.read();
+        due("read of " + name, answer < 0 ? -1 : 0, kind == 0 ? 0 : -1);
+        due("fault(0) of " + name, p.fault(0), kind);
+        due("fault(1) of " + name, p.fault(1), place);
+    }
+
+    private static void faultsOfWords() {
+        fault("", 0, 0);
+        fault(" \t\r\n% all this is a note", 0, 0);
+        fault("a%b\n.", 0, 0);
+        fault("a", 1, 1);
+        fault("a  ", 1, 3);
+        fault("a b.", 1, 2);
+        fault("a$.", 1, 1);
+        fault("1a.", 1, 0);
+        fault("_a.", 1, 0);
+        fault("a_1B.", 0, 0);
+        fault("a.\u0080", 1, 2);
+        fault(times("a", 31) + ".", 0, 0);
+        fault("b. " + times("a", 32) + ".", 1, 3);
+        fault("a <= b.", 1, 2);
+        fault("a !=> b.", 1, 4);
+        fault("a==>b.", 1, 2);
+        fault("a <=> b <=> c.", 1, 8);
+        fault("! X : a <=> b <=> c.", 0, 0);
+        fault("a <=> ! X : b <=> c <=> d.", 1, 20);
+        fault("! : a.", 1, 2);
+        fault("! X, Y : a.", 1, 3);
+        fault("! a : a.", 1, 2);
+        fault("? X a.", 1, 4);
+        fault("p().", 1, 2);
+        fault("p(a,).", 1, 4);
+        fault("p(a b).", 1, 4);
+        fault("X.", 1, 1);
+        fault("X(a).", 1, 1);
+        fault("(a) = b.", 1, 4);
+        fault("a = (b).", 1, 4);
+        fault("(a.", 1, 2);
+        fault("a).", 1, 1);
+        fault("prove.", 1, 5);
+        fault("prove = a.", 1, 6);
+        fault("prove prove(a).", 0, 0);
+        fault("p(prove).", 0, 0);
+        ClauseProver p = prover("a b.");
+        due("fault(-1)", p.fault(-1), -1);
+        due("fault(2)", p.fault(2), -1);
+    }
+
+    private static void faultsOfNames() {
+        fault("p(a). p.", 2, 6);
+        fault("p(a) & a.", 2, 7);
+        fault("a. b = a.", 2, 7);
+        fault("f(f(a,b)) = c.", 2, 0);
+        fault("p(f(a),f(a,b)).", 2, 7);
+        fault("p(p).", 2, 0);
+        fault("a. a = @.", 2, 3);
+        fault("a = b. a @.", 2, 7);
+        fault("a = b. a", 2, 7);
+        fault("a. a @.", 1, 5);
+        fault("p(a,b). p(a @", 1, 12);
+        fault("p(a,b). p(a) @", 2, 8);
+        fault("p(f(a)). q(f @", 2, 11);
+        fault("prove a. prove | a.", 1, 15);
+    }
+
+    private static void faultsOfDepth() {
+        fault(times("~", 60) + "a.", 0, 0);
+        fault(times("~", 61) + "a.", 3, 61);
+        fault(times("~", 61), 3, 61);
+        fault(times("~", 61) + "@", 3, 61);
+        fault(times("~", 60) + "@", 1, 60);
+        fault(times("(", 60) + "a" + times(")", 60) + ".", 0, 0);
+        fault(times("(", 61) + "a", 3, 61);
+        fault(times("!X:", 60) + "a.", 0, 0);
+        fault(times("!X:", 61) + "a.", 3, 183);
+        fault("~(" + times("a=>", 7) + "a).", 0, 0);
+        fault(times("a=>", 61) + "a.", 3, 183);
+        fault(times("(a=>", 30) + "b" + times(")", 30) + " & @", 1, 154);
+        fault(times("(a=>", 31) + "b", 3, 121);
+        fault("c = " + times("f(", 60) + "a" + times(")", 60) + ".", 0, 0);
+        fault("c = " + times("f(", 61) + "a" + times(")", 61) + ".", 3, 126);
+        fault("p(" + times("f(", 60) + ")", 3, 122);
+        fault(times("~", 59) + "p(a).", 0, 0);
+        fault(times("~", 60) + "p(a).", 3, 62);
+        fault(times("~a & ", 70) + "~a.", 0, 0);
+    }
+
+    private static String manyNames(int n) {
+        StringBuilder text = new StringBuilder();
+        for (int i = 0; i < n; i++) {
+            text.append(i % 25 == 0 ? i == 0 ? "" : "). " : i % 25 == 1 ? "(" : ",").append("n").append(i);
+        }
+        return text.append("). ").toString();
+    }
+
+    private static String manyBound(int n) {
+        StringBuilder text = new StringBuilder();
+        for (int i = 0; i < n; i++) {
+            text.append(i % 50 == 0 ? i == 0 ? "!" : ": a. !" : "").append(" X");
+        }
+        return text.append(": a. ").toString();
+    }
+
+    private static void faultsOfNumbers() {
+        String names = manyNames(250);
+        fault(names, 0, 0);
+        fault(names + "m.", 3, names.length());
+        fault(names + "~m", 3, names.length() + 1);
+        fault(names + "prove n249 = n249.", 0, 0);
+        fault(names + "p249(@.", 3, names.length());
+        String bound = manyBound(300);
+        fault(bound, 0, 0);
+        fault(bound + "! Y : a.", 3, bound.length() + 2);
+        fault(bound + "p(Y).", 3, bound.length() + 2);
+        fault(manyBound(299) + "p(Y,Y).", 0, 0);
+        fault(manyBound(299) + "p(Y,Z).", 3, manyBound(299).length() + 4);
+        fault(times("a|", 10000) + "a.", 3, 20000);
+        fault(times("a|", 10000) + "@.", 3, 20000);
+        fault(times("a|", 9999) + "a@", 1, 19999);
+    }
+
+    private static void faultsOfSentences() {
+        fault("! " + times("X ", 199) + ": a.", 0, 0);
+        fault("b. ! " + times("X ", 200) + ": a.", 3, 3);
+        fault("! " + times("X ", 199) + ": b != c.", 0, 0);
+        fault("! " + times("X ", 199) + ": ~ b = c.", 3, 0);
+        fault(times("a & ", 199) + "a.", 0, 0);
+        fault(times("a & ", 200) + "a.", 3, 0);
+        fault(times("a.", 200), 0, 0);
+        fault(times("a.", 201), 3, 400);
+        fault(times("a|~a.", 201), 3, 1000);
+        fault(times("a | ", 7) + "a.", 0, 0);
+        fault("b. prove " + times("a & ", 8) + "a.", 3, 3);
+        fault("p(X,Y,Z,U,V,W).", 0, 0);
+        fault("p(X,Y,Z,U,V,W,A).", 3, 0);
+        fault("X != X | Y != Y | Z != Z | U != U | V != V | W != W | A != A.", 3, 0);
+        fault("p(" + times("a,", 97) + "a).", 0, 0);
+        fault("p(" + times("a,", 98) + "a).", 3, 0);
+        fault("p(" + times("a,", 98) + "a). b.. ", 1, 204);
+        fault("? A B C D E F G : p(G).", 0, 0);
+        fault("? A B C D E F G H : p(H).", 3, 0);
+    }
+
+    private static void run() {
+        promise = 6;
+        ClauseProver p = prover(SOCRATES);
+        dueThrow("run(0)", () -> p.run(0), ARGUMENT);
+        dueThrow("run(101)", () -> p.run(101), ARGUMENT);
+        dueThrow("run(-5)", () -> p.run(-5), ARGUMENT);
+        due("run(1)", p.run(1), 0);
+        due("steps", p.count(4), 1);
+        due("run(3)", p.run(3), 0);
+        due("steps", p.count(4), 4);
+        due("run(100)", p.run(100), 1);
+        due("the fifth step takes the least number", p.count(4), 5);
+        due("run(1) again", p.run(1), 1);
+        dueThrow("run(0)", () -> p.run(0), ARGUMENT);
+        due("steps", p.count(4), 5);
+        ClauseProver q = prover("a. b.");
+        due("two steps for two clauses", q.run(2), 0);
+        due("run(1)", q.run(1), 2);
+        due("that is no step", q.count(4), 2);
+        due("run(100)", q.run(100), 2);
+        ClauseProver r = prover("a != a.");
+        due("the empty clause of the text", r.run(1), 1);
+        due("steps", r.count(4), 1);
+        due("nothing", prover("").run(1), 2);
+        // by weight, then by number; the fifth one by number alone
+        ClauseProver s = prover("p(f(f(f(f(c))))). p(f(f(f(c)))). p(f(f(c))). p(f(c)). p(c). q(c).");
+        int[] order = {4, 5, 3, 2, 0, 1};
+        for (int i = 0; i < order.length; i++) {
+            s.run(1);
+            due("processed by step " + (i + 1), s.clause(order[i], 6), 1);
+        }
+    }
+
+    private static void clause() {
+        promise = 7;
+        ClauseProver p = prover(SOCRATES);
+        due("clause 0", facts(p, 0), "0 -1 -1 1 3 0 0 0");
+        due("clause 1", facts(p, 1), "0 -1 -1 2 6 1 0 0");
+        dueThrow("clause(3, 0)", () -> p.clause(3, 0), ELEMENT);
+        p.run(100);
+        due("clause 0", facts(p, 0), "0 -1 -1 1 3 0 1 0");
+        due("clause 2", facts(p, 2), "0 -1 -1 1 3 0 2 0");
+        due("clause 3", facts(p, 3), "1 0 1 1 3 0 1 0");
+        due("clause 4", facts(p, 4), "4 2 -1 0 0 0 2 1");
+        dueThrow("clause(5, 0)", () -> p.clause(5, 0), ELEMENT);
+        dueThrow("clause(-1, 0)", () -> p.clause(-1, 0), ELEMENT);
+        dueThrow("clause(0, 8)", () -> p.clause(0, 8), ARGUMENT);
+        dueThrow("clause(0, -1)", () -> p.clause(0, -1), ARGUMENT);
+        dueThrow("clause(5, 8)", () -> p.clause(5, 8), ELEMENT);
+    }
+
+    private static void rewrote() {
+        promise = 8;
+        ClauseProver p = prover("f(X) = X. g(X) = X. p(f(g(f(c)))). ~p(c).");
+        p.run(100);
+        due("state", p.count(10), 1);
+        // ~p(c), f, g, then p(f(g(f(c)))), as what p(c) is
+        due("clause 4", shown(p, 4), "p(c)");
+        due("from", facts(p, 4), "4 2 -1 1 3 0 1 2");
+        due("rewrote(4, 0)", p.rewrote(4, 0), 0);
+        due("rewrote(4, 1)", p.rewrote(4, 1), 1);
+        due("each time counts", p.count(8), 4);
+        dueThrow("rewrote(4, 2)", () -> p.rewrote(4, 2), ELEMENT);
+        dueThrow("rewrote(4, -1)", () -> p.rewrote(4, -1), ELEMENT);
+        dueThrow("rewrote(0, 0)", () -> p.rewrote(0, 0), ELEMENT);
+        dueThrow("rewrote(-1, 0)", () -> p.rewrote(-1, 0), ELEMENT);
+        dueThrow("rewrote(99, 0)", () -> p.rewrote(99, 0), ELEMENT);
+    }
+
+    private static String literals(ClauseProver p, int k) {
+        StringBuilder text = new StringBuilder();
+        for (int i = 0; i < p.clause(k, 3); i++) {
+            for (int what = 0; what < 4; what++) {
+                text.append(p.literal(k, i, what));
+            }
+            text.append(' ');
+        }
+        return text.toString().trim();
+    }
+
+    private static void literal() {
+        promise = 9;
+        ClauseProver p = prover("a = b | c != d | f(c) != d | f(d) != c.");
+        due("the first of the heaviest", literals(p, 0), "1202 0202 0113 0103");
+        p = prover("f(X) = g(X) | p(X) | p(f(X)).");
+        due("f, g, p: 1, 2, 3", literals(p, 0), "1204 1103 1114");
+        p = prover("X = a | f(X,Y) = Y.");
+        due("X and a: none is greater", literals(p, 0), "1002 1114");
+        p = prover("h(X,b) = h(b,X). h(b,a) = h(a,b). a != b.");
+        due("lexically", literals(p, 0), "1016");
+        due("h(b,a) and h(a,b)", literals(p, 1), "1216");
+        due("a and b", literals(p, 2), "0112");
+        p = prover("e = a | e = b. b = c | a = c.");
+        due("e = b is greater", literals(p, 0), "1202 1212");
+        due("a is 2, b 3, c 4", literals(p, 1), "1212 1202");
+        ClauseProver q = p;
+        dueThrow("literal(0, 2, 0)", () -> q.literal(0, 2, 0), ELEMENT);
+        dueThrow("literal(0, -1, 0)", () -> q.literal(0, -1, 0), ELEMENT);
+        dueThrow("literal(2, 0, 0)", () -> q.literal(2, 0, 0), ELEMENT);
+        dueThrow("literal(0, 0, 4)", () -> q.literal(0, 0, 4), ARGUMENT);
+        dueThrow("literal(0, 0, -1)", () -> q.literal(0, 0, -1), ARGUMENT);
+        dueThrow("literal(0, 2, 4)", () -> q.literal(0, 2, 4), ELEMENT);
+        q.run(100);
+        due("whatever the state", literals(q, 0), "1202 1212");
+    }
+
+    private static void show() {
+        promise = 10;
+        ClauseProver p = prover(" p ( X , f(Y,c) )|~q|X!=Y | f(X,X) = c. c != c. ? X : ! Y : ? Z : r(X,Y,Z).");
+        due("clause 0", shown(p, 0), "p(X0,f(X1,c)) | ~q | X0 != X1 | f(X0,X0) = c");
+        due("clause 1", shown(p, 1), "false");
+        due("clause 2", shown(p, 2), "r(w0,X0,w1(w0,X0))");
+        due("its length", p.show(2), 18);
+        due("and in count", p.count(13), 18);
+        dueThrow("show(3)", () -> p.show(3), ELEMENT);
+        dueThrow("show(-1)", () -> p.show(-1), ELEMENT);
+        due("out stays by a throw", p.count(13), 18);
+        due("reduced", allShown(prover("p(Y) | a != a | q(X,Y) | p(Y) | b = c | c = b.")), "p(X0) | q(X1,X0) | b = c.");
+        due("w10", shown(prover(times("? X : a. ", 10) + "? X : p(X)."), 10), "p(w10)");
+        due("w100", shown(prover(times("? X : a. ", 100) + "? X : p(X)."), 100), "p(w100)");
+    }
+
+    private static void clausesOfFormulas() {
+        promise = 4;
+        String[] texts = {
+            "a & b & c.", "a. b. c.",
+            "~(a & b & c).", "~a | ~b | ~c.",
+            "~(a | b).", "~a. ~b.",
+            "a | b & c | d.", "a | b | d. a | c | d.",
+            "(a & b) | (c & d).", "a | c. a | d. b | c. b | d.",
+            "a => b => c.", "~a | ~b | c.",
+            "(a => b) => c.", "a | c. ~b | c.",
+            "~(a => b).", "a. ~b.",
+            "a <=> b.", "~a | b. ~b | a.",
+            "~(a <=> b).", "a | b. ~a | ~b.",
+            "prove a <=> ~b.", "a | ~b. ~a | b.",
+            "a <=> b & c.", "~a | b. ~a | c. ~b | ~c | a.",
+            "a != b.", "a != b.",
+            "~ a != b.", "a = b.",
+            "~ a = b & c.", "a != b. c.",
+            "prove ! X : p(X) & q.", "~p(w0) | ~q.",
+            "! X : p(X) <=> q <=> r.", "p(w0) | q | r. ~p(w0) | ~q | r. ~r | ~p(X0) | q. ~r | ~q | p(X0).",
+        };
+        for (int i = 0; i < texts.length; i += 2) {
+            due(texts[i], allShown(prover(texts[i])), texts[i + 1]);
+        }
+    }
+
+    private static void witnesses() {
+        promise = 4;
+        String[] texts = {
+            "(? Y : p(Y)) & q(X).", "p(w0(X0)). q(X0).",
+            "prove p(X,Y).", "~p(w0,w1(w0)).",
+            "prove (? Z : p(Z)) & q(X).", "~p(X0) | ~q(w0).",
+            "prove (! Z : p(Z)) & q(X).", "~p(w0(w1)) | ~q(w1).",
+            "! X : ? Y : ! Z : ? U : p(X,Y,Z,U).", "p(X0,w0(X0),X1,w1(X0,w0(X0),X1)).",
+            "! X : ! X : ? Y : p(X,Y).", "p(X0,w0(X1,X0)).",
+            "? X : ? X : p(X).", "p(w1(w0)).",
+            "? X Y : p(Y,X).", "p(w1(w0),w0).",
+            "a <=> ! X : ? Y : p(X,Y).", "~a | p(X0,w1(X0)). ~p(w0,X0) | a.",
+            "(? X : p(X)) | p(X).", "p(w0(X0)) | p(X0).",
+        };
+        for (int i = 0; i < texts.length; i += 2) {
+            due(texts[i], allShown(prover(texts[i])), texts[i + 1]);
+        }
+        due("one that stands nowhere", prover("? X : a.").count(11), 3);
+        due("one that stays", prover("! X : a.").count(11), 2);
+    }
+
+    private static void out() {
+        promise = 11;
+        ClauseProver p = prover("ab.");
+        dueThrow("out(0) before show", () -> p.out(0), INDEX);
+        p.show(0);
+        due("out(0)", p.out(0), 'a');
+        due("out(1)", p.out(1), 'b');
+        dueThrow("out(2)", () -> p.out(2), INDEX);
+        dueThrow("out(-1)", () -> p.out(-1), INDEX);
+    }
+
+    private static String symbols(ClauseProver p) {
+        StringBuilder text = new StringBuilder();
+        for (int k = 0; k < p.count(11); k++) {
+            text.append(p.symbol(k, 0)).append(p.symbol(k, 1)).append(p.symbol(k, 2)).append(' ');
+        }
+        return text.toString().trim();
+    }
+
+    private static void symbol() {
+        promise = 12;
+        ClauseProver p = prover("p(f(a,b)) & ? X : ! Y : ? Z : q. prove g(X) = a.");
+        due("symbols", symbols(p), "010 110 200 000 000 010 100 001 201 001");
+        dueThrow("symbol(10, 0)", () -> p.symbol(10, 0), ELEMENT);
+        dueThrow("symbol(-1, 0)", () -> p.symbol(-1, 0), ELEMENT);
+        dueThrow("symbol(0, 3)", () -> p.symbol(0, 3), ARGUMENT);
+        dueThrow("symbol(0, -1)", () -> p.symbol(0, -1), ARGUMENT);
+        dueThrow("symbol(10, 3)", () -> p.symbol(10, 3), ELEMENT);
+        due("prove is a name elsewhere", symbols(prover("prove a. prove prove.")), "010 010 010");
+        due("in the order of the variables", symbols(prover("(? Y : p(Y)) & q(X). prove r(Z,X).")), "010 110 110 210 101 001 101");
+    }
+
+    private static void proof() {
+        promise = 13;
+        ClauseProver p = prover("q(a). " + SOCRATES);
+        due("not yet", p.proof(), 0);
+        p.run(2);
+        due("not yet", p.proof(), 0);
+        due("run", p.run(100), 1);
+        due("proof", p.proof(), 5);
+        ClauseProver q = prover("a. b.");
+        q.run(100);
+        due("saturated", q.proof(), 0);
+        ClauseProver r = prover("b. a != a.");
+        r.run(100);
+        due("of the text", r.proof(), 1);
+        due("its step", r.step(0), 1);
+    }
+
+    private static void step() {
+        promise = 14;
+        ClauseProver p = prover("q(a). " + SOCRATES);
+        dueThrow("step(0) before", () -> p.step(0), INDEX);
+        p.run(100);
+        int[] steps = {1, 2, 3, 4, p.count(0) - 1};
+        for (int i = 0; i < steps.length; i++) {
+            due("step(" + i + ")", p.step(i), steps[i]);
+        }
+        dueThrow("step(5)", () -> p.step(5), INDEX);
+        dueThrow("step(-1)", () -> p.step(-1), INDEX);
+        feedText(p, "a.");
+        p.read();
+        dueThrow("step(0) after a read", () -> p.step(0), INDEX);
+    }
+
+    /** The number h, as the document tells it. */
+    private static int h(int seed, int... numbers) {
+        int h = seed;
+        for (int number : numbers) {
+            h = 31 * (h ^ (h >>> 7)) + number + 1;
+        }
+        h = (h ^ (h >>> 15)) * 739982445;
+        return h ^ (h >>> 12);
+    }
+
+    private static void look() {
+        promise = 15;
+        // p is 1, f is 2, a is 3
+        ClauseProver p = prover("p(f(a)). ~p(a).");
+        ClauseProver all = prover("p(f(X)) | a = X.");
+        int seen = 0;
+        for (int seed = -60; seed < 60; seed++) {
+            for (int m = 1; m <= 3; m++) {
+                int a = (h(seed, 3) & 0x7fffffff) % m;
+                int fa = (h(seed, 2, a) & 0x7fffffff) % m;
+                boolean suits = (h(seed, 1, fa) & 1) == 1 && (h(seed, 1, a) & 1) == 0;
+                seen += suits ? 1 : 0;
+                due("look(" + seed + ", " + m + ")", p.look(seed, m), suits ? 0 : -1);
+                boolean forAll = true;
+                for (int x = 0; x < m; x++) {
+                    int fx = (h(seed, 2, x) & 0x7fffffff) % m;
+                    forAll &= (h(seed, 1, fx) & 1) == 1 || a == x;
+                }
+                due("look(" + seed + ", " + m + ") for all", all.look(seed, m), forAll ? 0 : -1);
+            }
+        }
+        due("some suit", seen > 0 ? 1 : 0, 1);
+        dueThrow("look(0, 0)", () -> p.look(0, 0), ARGUMENT);
+        dueThrow("look(0, 4)", () -> p.look(0, 4), ARGUMENT);
+        ClauseProver refuted = prover(SOCRATES);
+        refuted.run(100);
+        due("never", refuted.search(0, 3, 50), -1);
+        // nothing that is inferred is false where the text is true
+        ClauseProver group = prover("mul(e,X) = X. mul(i(X),X) = e. mul(mul(X,Y),Z) = mul(X,mul(Y,Z)).");
+        group.run(60);
+        due("one element is a group", group.look(5, 1), 0);
+    }
+
+    private static void search() {
+        promise = 16;
+        ClauseProver p = prover("p(f(a)). ~p(a). X = a | X = f(a).");
+        int found = 0;
+        for (int seed = -40; seed < 40; seed++) {
+            int first = -1;
+            for (int i = 49; i >= 0; i--) {
+                first = p.look(seed + i, 2) == 0 ? i : first;
+            }
+            found += first > 0 ? 1 : 0;
+            due("search(" + seed + ", 2, 50)", p.search(seed, 2, 50), first);
+            if (first >= 1) {
+                due("search up to it", p.search(seed, 2, first), -1);
+                due("search with it", p.search(seed, 2, first + 1), first);
+            }
+        }
+        due("some are found", found > 0 ? 1 : 0, 1);
+        int first = -1;
+        for (int i = 49; i >= 0; i--) {
+            first = p.look(Integer.MAX_VALUE - 1 + i, 2) == 0 ? i : first;
+        }
+        due("seeds wrap", p.search(Integer.MAX_VALUE - 1, 2, 50), first);
+        dueThrow("search(0, 0, 1)", () -> p.search(0, 0, 1), ARGUMENT);
+        dueThrow("search(0, 4, 1)", () -> p.search(0, 4, 1), ARGUMENT);
+        dueThrow("search(0, 1, 0)", () -> p.search(0, 1, 0), ARGUMENT);
+        dueThrow("search(0, 1, 51)", () -> p.search(0, 1, 51), ARGUMENT);
+        due("no clauses", prover("").search(9, 1, 1), 0);
+    }
+
+    private static void counts(ClauseProver p, int... due) {
+        for (int what = 0; what < due.length; what++) {
+            due("count(" + what + ")", p.count(what), due[what]);
+        }
+    }
+
+    private static void count() {
+        promise = 17;
+        ClauseProver p = fed(SOCRATES);
+        due("the tape", p.count(12), 59);
+        p.read();
+        counts(p, 3, 3, 3, 0, 0, 0, 0, 0, 0, 0, 0, 4, 0, 0);
+        p.run(1);
+        counts(p, 3, 3, 2, 1, 1, 1, 0, 0, 0, 1, 0, 4);
+        p.run(2);
+        counts(p, 4, 3, 1, 3, 3, 2, 0, 0, 0, 1, 0, 4);
+        p.run(1);
+        counts(p, 4, 3, 1, 3, 4, 3, 0, 0, 0, 2, 0, 4);
+        p.run(1);
+        counts(p, 5, 3, 0, 3, 5, 3, 0, 0, 1, 2, 1, 4);
+        due("count(-1)", p.count(-1), -1);
+        due("count(14)", p.count(14), -1);
+    }
+
+    /** What the INFERENCES of a TEXT whose CLAUSES are all processed in their order give. */
+    private static void inferences() {
+        promise = 6;
+        ClauseProver p = prover("p(X) | p(f(Y)) | X = Y.");
+        p.run(1);
+        // self-superposition from and into each eligible side, and factoring of p(X) with p(f(Y))
+        due("a factor", shown(p, p.count(0) - 1), "f(X0) = X0 | p(f(X0))");
+        due("from", p.clause(p.count(0) - 1, 0), 3);
+        ClauseProver q = prover("f(X) != f(a) | p(X).");
+        q.run(1);
+        due("resolution", allShown(q), "f(X0) != f(a) | p(X0). p(a).");
+        due("from", facts(q, 1), "2 0 -1 1 3 0 0 0");
+        ClauseProver r = prover("f(X,b) = X | q. g(f(a,Y)) = Y.");
+        r.run(2);
+        due("superposition", shown(r, 2), "q | g(a) = b");
+        due("no variable is for a predicate", prover("X = a. p(b). ~q(b).").run(100), 2);
+        // p of TERMS of weight 1, 3, 7, .. 63 within the BOUNDS; each is a tautology with itself
+        ClauseProver s = prover("p(X) => p(f(X,X)). p(a).");
+        due("saturated", s.run(100), 2);
+        counts(s, 7, 2, 0, 7, 7, 12, 1, 0, 0, 6);
+    }
+
+    private static void simplification() {
+        promise = 6;
+        ClauseProver p = prover("p(a) | q. p(X).");
+        p.run(1);
+        due("p(X) first", p.clause(1, 6), 1);
+        p.run(1);
+        due("a tautology by rewriting", p.count(9), 2);
+        due("none is made", p.count(0), 2);
+        ClauseProver s = prover("~p(a) | ~q(b). ~p(X). ~q(b) | ~p(a) | r.");
+        s.run(2);
+        due("~p(X) subsumes the first", s.count(7), 1);
+        due("it is gone", s.clause(0, 6), 2);
+        s.run(1);
+        due("and the last", s.count(7), 2);
+        ClauseProver back = prover("~p(f(a)). f(X) = X.");
+        back.run(2);
+        due("f(X) = X is processed", back.clause(1, 6), 1);
+        due("so ~p(f(a)) is passive or gone", back.clause(0, 6) == 1 ? 1 : 0, 0);
+        ClauseProver later = prover("~p(a,f(a)). q(f(f(b))) | r. g(f(X),X,X) = g(X,X,X).");
+        later.run(3);
+        due("no side matches", later.clause(0, 6), 1);
+        ClauseProver again = prover("~p(f(a)). f(f(X)) != c. f(X) = g(X,X,X).");
+        again.run(3);
+        due("a smaller side does not rewrite", again.clause(0, 6), 1);
+        ClauseProver both = prover("~p(f(a,b)). f(X,Y) = f(Y,X).");
+        both.run(2);
+        due("f(a,b) is not greater than f(b,a)", both.clause(0, 6), 1);
+        ClauseProver turned = prover("~p(f(b,a)). p(f(b,a)) | q(a,b). f(X,Y) = f(Y,X).");
+        turned.run(3);
+        due("p 1, f 2, b 3, a 4: nor f(b,a) than f(a,b)", turned.clause(0, 6), 1);
+    }
+
+    private static void full() {
+        promise = 6;
+        ClauseProver p = prover("ap(ap(ap(s,X),Y),Z) = ap(ap(X,Z),ap(Y,Z)). ap(ap(k,X),Y) = X."
+            + " prove ? X : ! Y : ap(X,Y) = ap(Y,ap(X,Y)).");
+        int state = 0;
+        for (int i = 0; i < 40 && state == 0; i++) {
+            state = p.run(100);
+        }
+        due("full", state, 3);
+        due("clauses", p.count(0), 2000);
+        int steps = p.count(4);
+        int inferences = p.count(5);
+        due("nothing more is done", p.run(100), 3);
+        due("steps", p.count(4), steps);
+        due("inferences", p.count(5), inferences);
+        dueThrow("clause(2000, 0)", () -> p.clause(2000, 0), ELEMENT);
+        due("no proof", p.proof(), 0);
+        feedText(p, SOCRATES);
+        due("read", p.read(), 3);
+        due("run", p.run(100), 1);
+    }
+}
