@@ -49,6 +49,7 @@ public final class PromiseTests {
         count();
         inferences();
         simplification();
+        sixtyTimes();
         full();
         System.out.println(checked + " answers were looked at, " + wrong + " are wrong");
         System.exit(wrong == 0 ? 0 : 1);
@@ -216,6 +217,20 @@ public final class PromiseTests {
         due("no fault", p.fault(0), 0);
         due("open", p.count(10), 0);
         due("tautologies are none", prover("a | ~a. b = b. c.").count(1), 1);
+        due("names that begin alike", prover("ab. a. abc. ab. a_. aB.").count(11), 6);
+        cut("abc.", 2, 2);
+        cut("a => b.", 3, 3);
+        cut("a = !=.", 5, 4);
+        cut("a <=> b.", 4, 2);
+        cut("a. b.", 2, 0);
+    }
+
+    /** What was cut off the tape is no part of the TEXT. */
+    private static void cut(String text, int length, int place) {
+        ClauseProver p = fed(text);
+        p.end(length);
+        p.read();
+        due("the fault of " + text.substring(0, length), p.fault(1), place);
     }
 
     /** The FAULT of a TEXT and its place. */
@@ -308,6 +323,14 @@ public final class PromiseTests {
         fault(times("~", 59) + "p(a).", 0, 0);
         fault(times("~", 60) + "p(a).", 3, 62);
         fault(times("~a & ", 70) + "~a.", 0, 0);
+        fault(times("?X:", 60) + "a.", 0, 0);
+        fault(times("?X:", 61) + "a.", 3, 183);
+        fault("b & " + times("~", 60) + "a.", 0, 0);
+        fault("b | c & " + times("~", 60) + "a.", 0, 0);
+        fault("b <=> c | " + times("~", 60) + "a.", 0, 0);
+        fault("(b => c) & " + times("~", 60) + "a.", 0, 0);
+        fault("b => " + times("~", 60) + "a.", 3, 65);
+        fault("~b | " + times("~", 61) + "a.", 3, 66);
     }
 
     private static String manyNames(int n) {
@@ -349,6 +372,11 @@ public final class PromiseTests {
         fault("b. ! " + times("X ", 200) + ": a.", 3, 3);
         fault("! " + times("X ", 199) + ": b != c.", 0, 0);
         fault("! " + times("X ", 199) + ": ~ b = c.", 3, 0);
+        fault("b & ! " + times("X ", 198) + ": a.", 0, 0);
+        fault("b & ! " + times("X ", 199) + ": a.", 3, 0);
+        fault("b <=> ! " + times("X ", 199) + ": a.", 3, 0);
+        fault("(? " + times("X ", 199) + ": a) => b.", 3, 0);
+        fault("(((? " + times("X ", 198) + ": a))) | b.", 0, 0);
         fault(times("a & ", 199) + "a.", 0, 0);
         fault(times("a & ", 200) + "a.", 3, 0);
         fault(times("a.", 200), 0, 0);
@@ -711,6 +739,12 @@ public final class PromiseTests {
         ClauseProver r = prover("f(X,b) = X | q. g(f(a,Y)) = Y.");
         r.run(2);
         due("superposition", shown(r, 2), "q | g(a) = b");
+        ClauseProver met = prover("q | f(Z,Z,Z,Z) = a. p(f(g(k(c)),g(X),g(X),g(X))).");
+        met.run(2);
+        due("a value that is met again", shown(met, 2), "q | p(a)");
+        ClauseProver within = prover("q | f(Z,Z) = a. p(f(X,g(X))).");
+        within.run(2);
+        due("no term is within itself", within.count(0), 2);
         due("no variable is for a predicate", prover("X = a. p(b). ~q(b).").run(100), 2);
         // p of TERMS of weight 1, 3, 7, .. 63 within the BOUNDS; each is a tautology with itself
         ClauseProver s = prover("p(X) => p(f(X,X)). p(a).");
@@ -748,6 +782,16 @@ public final class PromiseTests {
         ClauseProver turned = prover("~p(f(b,a)). p(f(b,a)) | q(a,b). f(X,Y) = f(Y,X).");
         turned.run(3);
         due("p 1, f 2, b 3, a 4: nor f(b,a) than f(a,b)", turned.clause(0, 6), 1);
+    }
+
+    private static void sixtyTimes() {
+        promise = 6;
+        ClauseProver p = prover("f(X) = X. p(" + times("f(", 30) + "c" + times(")", 30) + ","
+            + times("f(", 31) + "c" + times(")", 31) + ").");
+        p.run(2);
+        due("after sixty times", shown(p, 2), "p(c,f(c))");
+        due("sixty", p.count(8), 60);
+        due("one did it all", p.clause(2, 7), 1);
     }
 
     private static void full() {
