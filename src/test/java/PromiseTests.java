@@ -2,7 +2,8 @@ import java.util.NoSuchElementException;
 
 /**
  * The promises of the document, one after the other: ordinary inputs, the edges that it names, and
- * wrong inputs. What is due was worked out by hand from the document.
+ * wrong inputs. What is due was worked out by hand from the document; where program and hand differed, the
+ * document was read again.
  */
 public final class PromiseTests {
     private static final String SOCRATES = "man(socrates). man(X) => mortal(X). prove mortal(socrates).";

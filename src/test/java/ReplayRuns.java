@@ -11,7 +11,8 @@ import java.util.NoSuchElementException;
 /**
  * Replays written runs, *.txt in the folder that is named, against new objects. A line is a call, or
  * a group of calls that belong together, and behind " = " what is due. The answers come from a
- * second prover that was written from the document alone, so that neither copies the other's faults.
+ * second prover, written another way by the same reader of the document: it shows slips of the
+ * program, but not a passage that was read wrongly for both.
  */
 public final class ReplayRuns {
     private static int wrong = 0;
