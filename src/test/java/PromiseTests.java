@@ -1,5 +1,3 @@
-import java.util.NoSuchElementException;
-
 /**
  * The promises of the document, one after the other: ordinary inputs, the edges that it names, and
  * wrong inputs. What is due was worked out by hand from the document; where program and hand differed, the
