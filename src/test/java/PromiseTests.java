@@ -3,23 +3,10 @@
  * wrong inputs. What is due was worked out by hand from the document; where program and hand differed, the
  * document was read again.
  */
-public final class PromiseTests {
+public final class PromiseTests extends Checks {
     private static final String SOCRATES = "man(socrates). man(X) => mortal(X). prove mortal(socrates).";
-    private static final String STATE = "IllegalStateException";
-    private static final String ARGUMENT = "IllegalArgumentException";
-    private static final String ELEMENT = "NoSuchElementException";
-    private static final String INDEX = "IndexOutOfBoundsException";
-
-    private static int wrong = 0;
-    private static int checked = 0;
-    private static int promise = 0;
 
     private PromiseTests() {
-    }
-
-    /** A call that is expected to throw. */
-    private interface Call {
-        int make();
     }
 
     public static void main(String[] args) {
@@ -29,9 +16,6 @@ public final class PromiseTests {
         read();
         faultsOfWords();
         faultsOfNames();
-        faultsOfDepth();
-        faultsOfNumbers();
-        faultsOfSentences();
         run();
         clause();
         rewrote();
@@ -50,95 +34,12 @@ public final class PromiseTests {
         simplification();
         sixtyTimes();
         full();
-        System.out.println(checked + " answers were looked at, " + wrong + " are wrong");
-        System.exit(wrong == 0 ? 0 : 1);
-    }
-
-    private static void due(String what, int got, int want) {
-        checked++;
-        if (got != want) {
-            wrong++;
-            System.out.println("promise " + promise + ": " + what + " answered " + got + ", due is " + want);
-        }
-    }
-
-    private static void due(String what, String got, String want) {
-        checked++;
-        if (!got.equals(want)) {
-            wrong++;
-            System.out.println("promise " + promise + ": " + what + " answered " + got + ", due is " + want);
-        }
-    }
-
-    private static void dueThrow(String what, Call call, String want) {
-        String got;
-        try {
-            got = String.valueOf(call.make());
-        } catch (RuntimeException e) {
-            got = e.getClass().getSimpleName();
-        }
-        due(what, got, want);
-    }
-
-    private static ClauseProver fed(String text) {
-        ClauseProver p = new ClauseProver();
-        feedText(p, text);
-        return p;
-    }
-
-    private static void feedText(ClauseProver p, String text) {
-        int[] n = new int[5];
-        int before = p.count(12);
-        for (int i = 0; i < text.length(); i += 20) {
-            for (int j = 0; j < 5; j++) {
-                n[j] = 0;
-                for (int k = i + 4 * j; k < i + 4 * j + 4; k++) {
-                    n[j] = n[j] << 8 | (k < text.length() ? text.charAt(k) : 0);
-                }
-            }
-            p.feed(n[0], n[1], n[2], n[3], n[4]);
-        }
-        p.end(before + text.length());
-    }
-
-    private static ClauseProver prover(String text) {
-        ClauseProver p = fed(text);
-        p.read();
-        return p;
-    }
-
-    private static String shown(ClauseProver p, int k) {
-        int length = p.show(k);
-        StringBuilder text = new StringBuilder();
-        for (int i = 0; i < length; i++) {
-            text.append((char) p.out(i));
-        }
-        return text.toString();
-    }
-
-    private static String allShown(ClauseProver p) {
-        StringBuilder text = new StringBuilder();
-        for (int k = 0; k < p.count(0); k++) {
-            text.append(shown(p, k)).append(". ");
-        }
-        return text.toString().trim();
-    }
-
-    private static String facts(ClauseProver p, int k) {
-        StringBuilder text = new StringBuilder();
-        for (int what = 0; what < 8; what++) {
-            text.append(what > 0 ? " " : "").append(p.clause(k, what));
-        }
-        return text.toString();
-    }
-
-    private static String times(String text, int n) {
-        return text.repeat(Math.max(0, n));
+        finish();
     }
 
     private static void newObject() {
-        promise = 1;
-        ClauseProver p = new ClauseProver();
+        says("promise 1");
+        CountedProver p = new CountedProver();
         int[] counts = {0, 0, 0, 0, 0, 0, 0, 0, 0, 0, 0, 1, 0, 0};
         for (int what = 0; what < counts.length; what++) {
             due("count(" + what + ")", p.count(what), counts[what]);
@@ -154,30 +55,27 @@ public final class PromiseTests {
     }
 
     private static void feed() {
-        promise = 2;
-        ClauseProver p = new ClauseProver();
+        says("promise 2");
+        CountedProver p = new CountedProver();
         due("feed", p.feed(0x61203d20, 0x622e2020, 0x20202020, 0x20202020, 0x20202063), 20);
         due("feed", p.feed(0x20213d20, 0x622e0a0d, 0x09202525, 0xff80ff00, -1), 40);
         due("read of both", p.read(), 2);
-        due("clauses", allShown(p), "a = b. c != b.");
-        ClauseProver full = new ClauseProver();
+        due("clauses", p.allShown(), "a = b. c != b.");
+        dueThrow("no room for 20", PromiseTests::feedWithoutRoom, STATE);
+    }
+
+    /** That many bytes need more than 512 calls: an object that has less room would throw sooner. */
+    private static int feedWithoutRoom() {
+        CountedProver p = new CountedProver().goBeyond();
         for (int i = 1; i <= 3276; i++) {
-            if (full.feed(0, 0, 0, 0, 0) != 20 * i) {
-                due("feed " + i, -1, 20 * i);
-            }
+            due("feed " + i, p.feed(0, 0, 0, 0, 0), 20 * i);
         }
-        dueThrow("feed at 65,520", () -> full.feed(0, 0, 0, 0, 0), STATE);
-        due("length after the throw", full.count(12), 65520);
-        full.end(65517);
-        dueThrow("feed at 65,517", () -> full.feed(0, 0, 0, 0, 0), STATE);
-        full.end(65516);
-        due("feed at 65,516", full.feed(0, 0, 0, 0, 0), 65536);
-        dueThrow("feed at 65,536", () -> full.feed(0, 0, 0, 0, 0), STATE);
+        return p.feed(0, 0, 0, 0, 0);
     }
 
     private static void end() {
-        promise = 3;
-        ClauseProver p = fed("a. b. c. d. e. f. g.");
+        says("promise 3");
+        CountedProver p = CountedProver.fed("a. b. c. d. e. f. g.");
         due("end(20)", p.end(20), 20);
         dueThrow("end(21)", () -> p.end(21), ARGUMENT);
         dueThrow("end(-1)", () -> p.end(-1), ARGUMENT);
@@ -190,13 +88,13 @@ public final class PromiseTests {
     }
 
     private static void read() {
-        promise = 4;
-        ClauseProver p = prover(SOCRATES);
+        says("promise 4");
+        CountedProver p = CountedProver.of(SOCRATES);
         due("clauses", p.count(1), 3);
         due("the tape is empty", p.count(12), 0);
         due("run", p.run(100), 1);
         due("show", p.show(0), 13);
-        feedText(p, "a | b. c = d.");
+        p.feedText("a | b. c = d.");
         due("read", p.read(), 2);
         int[] counts = {2, 2, 2, 0, 0, 0, 0, 0, 0, 0, 0, 5, 0, 13};
         for (int what = 0; what < counts.length; what++) {
@@ -204,7 +102,7 @@ public final class PromiseTests {
         }
         due("proof", p.proof(), 0);
         due("out stays", p.out(12), ')');
-        feedText(p, "a. a(b).");
+        p.feedText("a. a(b).");
         due("read with a fault", p.read(), -1);
         due("clauses", p.count(0), 0);
         due("symbols", p.count(11), 1);
@@ -215,8 +113,8 @@ public final class PromiseTests {
         due("read of nothing", p.read(), 0);
         due("no fault", p.fault(0), 0);
         due("open", p.count(10), 0);
-        due("tautologies are none", prover("a | ~a. b = b. c.").count(1), 1);
-        due("names that begin alike", prover("ab. a. abc. ab. a_. aB.").count(11), 6);
+        due("tautologies are none", CountedProver.of("a | ~a. b = b. c.").count(1), 1);
+        due("names that begin alike", CountedProver.of("ab. a. abc. ab. a_. aB.").count(11), 6);
         cut("abc.", 2, 2);
         cut("a => b.", 3, 3);
         cut("a = !=.", 5, 4);
@@ -226,24 +124,14 @@ public final class PromiseTests {
 
     /** What was cut off the tape is no part of the TEXT. */
     private static void cut(String text, int length, int place) {
-        ClauseProver p = fed(text);
+        CountedProver p = CountedProver.fed(text);
         p.end(length);
         p.read();
         due("the fault of " + text.substring(0, length), p.fault(1), place);
     }
 
-    /** The FAULT of a TEXT and its place. */
-    private static void fault(String text, int kind, int place) {
-        promise = 5;
-        ClauseProver p = fed(text);
-        String name = text.length() > 60 ? text.substring(0, 60) + ".." : text;
-        int answer = p.read();
-        due("read of " + name, answer < 0 ? -1 : 0, kind == 0 ? 0 : -1);
-        due("fault(0) of " + name, p.fault(0), kind);
-        due("fault(1) of " + name, p.fault(1), place);
-    }
-
     private static void faultsOfWords() {
+        says("promise 5");
         fault("", 0, 0);
         fault(" \t\r\n% all this is a note", 0, 0);
         fault("a%b\n.", 0, 0);
@@ -280,12 +168,13 @@ public final class PromiseTests {
         fault("prove = a.", 1, 6);
         fault("prove prove(a).", 0, 0);
         fault("p(prove).", 0, 0);
-        ClauseProver p = prover("a b.");
+        CountedProver p = CountedProver.of("a b.");
         due("fault(-1)", p.fault(-1), -1);
         due("fault(2)", p.fault(2), -1);
     }
 
     private static void faultsOfNames() {
+        says("promise 5");
         fault("p(a). p.", 2, 6);
         fault("p(a) & a.", 2, 7);
         fault("a. b = a.", 2, 7);
@@ -302,100 +191,9 @@ public final class PromiseTests {
         fault("prove a. prove | a.", 1, 15);
     }
 
-    private static void faultsOfDepth() {
-        fault(times("~", 60) + "a.", 0, 0);
-        fault(times("~", 61) + "a.", 3, 61);
-        fault(times("~", 61), 3, 61);
-        fault(times("~", 61) + "@", 3, 61);
-        fault(times("~", 60) + "@", 1, 60);
-        fault(times("(", 60) + "a" + times(")", 60) + ".", 0, 0);
-        fault(times("(", 61) + "a", 3, 61);
-        fault(times("!X:", 60) + "a.", 0, 0);
-        fault(times("!X:", 61) + "a.", 3, 183);
-        fault("~(" + times("a=>", 7) + "a).", 0, 0);
-        fault(times("a=>", 61) + "a.", 3, 183);
-        fault(times("(a=>", 30) + "b" + times(")", 30) + " & @", 1, 154);
-        fault(times("(a=>", 31) + "b", 3, 121);
-        fault("c = " + times("f(", 60) + "a" + times(")", 60) + ".", 0, 0);
-        fault("c = " + times("f(", 61) + "a" + times(")", 61) + ".", 3, 126);
-        fault("p(" + times("f(", 60) + ")", 3, 122);
-        fault(times("~", 59) + "p(a).", 0, 0);
-        fault(times("~", 60) + "p(a).", 3, 62);
-        fault(times("~a & ", 70) + "~a.", 0, 0);
-        fault(times("?X:", 60) + "a.", 0, 0);
-        fault(times("?X:", 61) + "a.", 3, 183);
-        fault("b & " + times("~", 60) + "a.", 0, 0);
-        fault("b | c & " + times("~", 60) + "a.", 0, 0);
-        fault("b <=> c | " + times("~", 60) + "a.", 0, 0);
-        fault("(b => c) & " + times("~", 60) + "a.", 0, 0);
-        fault("b => " + times("~", 60) + "a.", 3, 65);
-        fault("~b | " + times("~", 61) + "a.", 3, 66);
-    }
-
-    private static String manyNames(int n) {
-        StringBuilder text = new StringBuilder();
-        for (int i = 0; i < n; i++) {
-            text.append(i % 25 == 0 ? i == 0 ? "" : "). " : i % 25 == 1 ? "(" : ",").append("n").append(i);
-        }
-        return text.append("). ").toString();
-    }
-
-    private static String manyBound(int n) {
-        StringBuilder text = new StringBuilder();
-        for (int i = 0; i < n; i++) {
-            text.append(i % 50 == 0 ? i == 0 ? "!" : ": a. !" : "").append(" X");
-        }
-        return text.append(": a. ").toString();
-    }
-
-    private static void faultsOfNumbers() {
-        String names = manyNames(250);
-        fault(names, 0, 0);
-        fault(names + "m.", 3, names.length());
-        fault(names + "~m", 3, names.length() + 1);
-        fault(names + "prove n249 = n249.", 0, 0);
-        fault(names + "p249(@.", 3, names.length());
-        String bound = manyBound(300);
-        fault(bound, 0, 0);
-        fault(bound + "! Y : a.", 3, bound.length() + 2);
-        fault(bound + "p(Y).", 3, bound.length() + 2);
-        fault(manyBound(299) + "p(Y,Y).", 0, 0);
-        fault(manyBound(299) + "p(Y,Z).", 3, manyBound(299).length() + 4);
-        fault(times("a|", 10000) + "a.", 3, 20000);
-        fault(times("a|", 10000) + "@.", 3, 20000);
-        fault(times("a|", 9999) + "a@", 1, 19999);
-    }
-
-    private static void faultsOfSentences() {
-        fault("! " + times("X ", 199) + ": a.", 0, 0);
-        fault("b. ! " + times("X ", 200) + ": a.", 3, 3);
-        fault("! " + times("X ", 199) + ": b != c.", 0, 0);
-        fault("! " + times("X ", 199) + ": ~ b = c.", 3, 0);
-        fault("b & ! " + times("X ", 198) + ": a.", 0, 0);
-        fault("b & ! " + times("X ", 199) + ": a.", 3, 0);
-        fault("b <=> ! " + times("X ", 199) + ": a.", 3, 0);
-        fault("(? " + times("X ", 199) + ": a) => b.", 3, 0);
-        fault("(((? " + times("X ", 198) + ": a))) | b.", 0, 0);
-        fault(times("a & ", 199) + "a.", 0, 0);
-        fault(times("a & ", 200) + "a.", 3, 0);
-        fault(times("a.", 200), 0, 0);
-        fault(times("a.", 201), 3, 400);
-        fault(times("a|~a.", 201), 3, 1000);
-        fault(times("a | ", 7) + "a.", 0, 0);
-        fault("b. prove " + times("a & ", 8) + "a.", 3, 3);
-        fault("p(X,Y,Z,U,V,W).", 0, 0);
-        fault("p(X,Y,Z,U,V,W,A).", 3, 0);
-        fault("X != X | Y != Y | Z != Z | U != U | V != V | W != W | A != A.", 3, 0);
-        fault("p(" + times("a,", 97) + "a).", 0, 0);
-        fault("p(" + times("a,", 98) + "a).", 3, 0);
-        fault("p(" + times("a,", 98) + "a). b.. ", 1, 204);
-        fault("? A B C D E F G : p(G).", 0, 0);
-        fault("? A B C D E F G H : p(H).", 3, 0);
-    }
-
     private static void run() {
-        promise = 6;
-        ClauseProver p = prover(SOCRATES);
+        says("promise 6");
+        CountedProver p = CountedProver.of(SOCRATES);
         dueThrow("run(0)", () -> p.run(0), ARGUMENT);
         dueThrow("run(101)", () -> p.run(101), ARGUMENT);
         dueThrow("run(-5)", () -> p.run(-5), ARGUMENT);
@@ -408,17 +206,17 @@ public final class PromiseTests {
         due("run(1) again", p.run(1), 1);
         dueThrow("run(0)", () -> p.run(0), ARGUMENT);
         due("steps", p.count(4), 5);
-        ClauseProver q = prover("a. b.");
+        CountedProver q = CountedProver.of("a. b.");
         due("two steps for two clauses", q.run(2), 0);
         due("run(1)", q.run(1), 2);
         due("that is no step", q.count(4), 2);
         due("run(100)", q.run(100), 2);
-        ClauseProver r = prover("a != a.");
+        CountedProver r = CountedProver.of("a != a.");
         due("the empty clause of the text", r.run(1), 1);
         due("steps", r.count(4), 1);
-        due("nothing", prover("").run(1), 2);
+        due("nothing", CountedProver.of("").run(1), 2);
         // by weight, then by number; the fifth one by number alone
-        ClauseProver s = prover("p(f(f(f(f(c))))). p(f(f(f(c)))). p(f(f(c))). p(f(c)). p(c). q(c).");
+        CountedProver s = CountedProver.of("p(f(f(f(f(c))))). p(f(f(f(c)))). p(f(f(c))). p(f(c)). p(c). q(c).");
         int[] order = {4, 5, 3, 2, 0, 1};
         for (int i = 0; i < order.length; i++) {
             s.run(1);
@@ -427,16 +225,16 @@ public final class PromiseTests {
     }
 
     private static void clause() {
-        promise = 7;
-        ClauseProver p = prover(SOCRATES);
-        due("clause 0", facts(p, 0), "0 -1 -1 1 3 0 0 0");
-        due("clause 1", facts(p, 1), "0 -1 -1 2 6 1 0 0");
+        says("promise 7");
+        CountedProver p = CountedProver.of(SOCRATES);
+        due("clause 0", p.facts(0), "0 -1 -1 1 3 0 0 0");
+        due("clause 1", p.facts(1), "0 -1 -1 2 6 1 0 0");
         dueThrow("clause(3, 0)", () -> p.clause(3, 0), ELEMENT);
         p.run(100);
-        due("clause 0", facts(p, 0), "0 -1 -1 1 3 0 1 0");
-        due("clause 2", facts(p, 2), "0 -1 -1 1 3 0 2 0");
-        due("clause 3", facts(p, 3), "1 0 1 1 3 0 1 0");
-        due("clause 4", facts(p, 4), "4 2 -1 0 0 0 2 1");
+        due("clause 0", p.facts(0), "0 -1 -1 1 3 0 1 0");
+        due("clause 2", p.facts(2), "0 -1 -1 1 3 0 2 0");
+        due("clause 3", p.facts(3), "1 0 1 1 3 0 1 0");
+        due("clause 4", p.facts(4), "4 2 -1 0 0 0 2 1");
         dueThrow("clause(5, 0)", () -> p.clause(5, 0), ELEMENT);
         dueThrow("clause(-1, 0)", () -> p.clause(-1, 0), ELEMENT);
         dueThrow("clause(0, 8)", () -> p.clause(0, 8), ARGUMENT);
@@ -445,13 +243,13 @@ public final class PromiseTests {
     }
 
     private static void rewrote() {
-        promise = 8;
-        ClauseProver p = prover("f(X) = X. g(X) = X. p(f(g(f(c)))). ~p(c).");
+        says("promise 8");
+        CountedProver p = CountedProver.of("f(X) = X. g(X) = X. p(f(g(f(c)))). ~p(c).");
         p.run(100);
         due("state", p.count(10), 1);
         // ~p(c), f, g, then p(f(g(f(c)))), as what p(c) is
-        due("clause 4", shown(p, 4), "p(c)");
-        due("from", facts(p, 4), "4 2 -1 1 3 0 1 2");
+        due("clause 4", p.shown(4), "p(c)");
+        due("from", p.facts(4), "4 2 -1 1 3 0 1 2");
         due("rewrote(4, 0)", p.rewrote(4, 0), 0);
         due("rewrote(4, 1)", p.rewrote(4, 1), 1);
         due("each time counts", p.count(8), 4);
@@ -462,33 +260,22 @@ public final class PromiseTests {
         dueThrow("rewrote(99, 0)", () -> p.rewrote(99, 0), ELEMENT);
     }
 
-    private static String literals(ClauseProver p, int k) {
-        StringBuilder text = new StringBuilder();
-        for (int i = 0; i < p.clause(k, 3); i++) {
-            for (int what = 0; what < 4; what++) {
-                text.append(p.literal(k, i, what));
-            }
-            text.append(' ');
-        }
-        return text.toString().trim();
-    }
-
     private static void literal() {
-        promise = 9;
-        ClauseProver p = prover("a = b | c != d | f(c) != d | f(d) != c.");
-        due("the first of the heaviest", literals(p, 0), "1202 0202 0113 0103");
-        p = prover("f(X) = g(X) | p(X) | p(f(X)).");
-        due("f, g, p: 1, 2, 3", literals(p, 0), "1204 1103 1114");
-        p = prover("X = a | f(X,Y) = Y.");
-        due("X and a: none is greater", literals(p, 0), "1002 1114");
-        p = prover("h(X,b) = h(b,X). h(b,a) = h(a,b). a != b.");
-        due("lexically", literals(p, 0), "1016");
-        due("h(b,a) and h(a,b)", literals(p, 1), "1216");
-        due("a and b", literals(p, 2), "0112");
-        p = prover("e = a | e = b. b = c | a = c.");
-        due("e = b is greater", literals(p, 0), "1202 1212");
-        due("a is 2, b 3, c 4", literals(p, 1), "1212 1202");
-        ClauseProver q = p;
+        says("promise 9");
+        CountedProver p = CountedProver.of("a = b | c != d | f(c) != d | f(d) != c.");
+        due("the first of the heaviest", p.literals(0), "1202 0202 0113 0103");
+        p = CountedProver.of("f(X) = g(X) | p(X) | p(f(X)).");
+        due("f, g, p: 1, 2, 3", p.literals(0), "1204 1103 1114");
+        p = CountedProver.of("X = a | f(X,Y) = Y.");
+        due("X and a: none is greater", p.literals(0), "1002 1114");
+        p = CountedProver.of("h(X,b) = h(b,X). h(b,a) = h(a,b). a != b.");
+        due("lexically", p.literals(0), "1016");
+        due("h(b,a) and h(a,b)", p.literals(1), "1216");
+        due("a and b", p.literals(2), "0112");
+        p = CountedProver.of("e = a | e = b. b = c | a = c.");
+        due("e = b is greater", p.literals(0), "1202 1212");
+        due("a is 2, b 3, c 4", p.literals(1), "1212 1202");
+        CountedProver q = p;
         dueThrow("literal(0, 2, 0)", () -> q.literal(0, 2, 0), ELEMENT);
         dueThrow("literal(0, -1, 0)", () -> q.literal(0, -1, 0), ELEMENT);
         dueThrow("literal(2, 0, 0)", () -> q.literal(2, 0, 0), ELEMENT);
@@ -496,27 +283,27 @@ public final class PromiseTests {
         dueThrow("literal(0, 0, -1)", () -> q.literal(0, 0, -1), ARGUMENT);
         dueThrow("literal(0, 2, 4)", () -> q.literal(0, 2, 4), ELEMENT);
         q.run(100);
-        due("whatever the state", literals(q, 0), "1202 1212");
+        due("whatever the state", q.literals(0), "1202 1212");
     }
 
     private static void show() {
-        promise = 10;
-        ClauseProver p = prover(" p ( X , f(Y,c) )|~q|X!=Y | f(X,X) = c. c != c. ? X : ! Y : ? Z : r(X,Y,Z).");
-        due("clause 0", shown(p, 0), "p(X0,f(X1,c)) | ~q | X0 != X1 | f(X0,X0) = c");
-        due("clause 1", shown(p, 1), "false");
-        due("clause 2", shown(p, 2), "r(w0,X0,w1(w0,X0))");
+        says("promise 10");
+        CountedProver p = CountedProver.of(" p ( X , f(Y,c) )|~q|X!=Y | f(X,X) = c. c != c. ? X : ! Y : ? Z : r(X,Y,Z).");
+        due("clause 0", p.shown(0), "p(X0,f(X1,c)) | ~q | X0 != X1 | f(X0,X0) = c");
+        due("clause 1", p.shown(1), "false");
+        due("clause 2", p.shown(2), "r(w0,X0,w1(w0,X0))");
         due("its length", p.show(2), 18);
         due("and in count", p.count(13), 18);
         dueThrow("show(3)", () -> p.show(3), ELEMENT);
         dueThrow("show(-1)", () -> p.show(-1), ELEMENT);
         due("out stays by a throw", p.count(13), 18);
-        due("reduced", allShown(prover("p(Y) | a != a | q(X,Y) | p(Y) | b = c | c = b.")), "p(X0) | q(X1,X0) | b = c.");
-        due("w10", shown(prover(times("? X : a. ", 10) + "? X : p(X)."), 10), "p(w10)");
-        due("w100", shown(prover(times("? X : a. ", 100) + "? X : p(X)."), 100), "p(w100)");
+        due("reduced", CountedProver.of("p(Y) | a != a | q(X,Y) | p(Y) | b = c | c = b.").allShown(), "p(X0) | q(X1,X0) | b = c.");
+        due("w10", CountedProver.of(times("? X : a. ", 10) + "? X : p(X).").shown(10), "p(w10)");
+        due("w100", CountedProver.of(times("? X : a. ", 100) + "? X : p(X).").shown(100), "p(w100)");
     }
 
     private static void clausesOfFormulas() {
-        promise = 4;
+        says("promise 4");
         String[] texts = {
             "a & b & c.", "a. b. c.",
             "~(a & b & c).", "~a | ~b | ~c.",
@@ -537,12 +324,12 @@ public final class PromiseTests {
             "! X : p(X) <=> q <=> r.", "p(w0) | q | r. ~p(w0) | ~q | r. ~r | ~p(X0) | q. ~r | ~q | p(X0).",
         };
         for (int i = 0; i < texts.length; i += 2) {
-            due(texts[i], allShown(prover(texts[i])), texts[i + 1]);
+            due(texts[i], CountedProver.of(texts[i]).allShown(), texts[i + 1]);
         }
     }
 
     private static void witnesses() {
-        promise = 4;
+        says("promise 4");
         String[] texts = {
             "(? Y : p(Y)) & q(X).", "p(w0(X0)). q(X0).",
             "prove p(X,Y).", "~p(w0,w1(w0)).",
@@ -556,15 +343,15 @@ public final class PromiseTests {
             "(? X : p(X)) | p(X).", "p(w0(X0)) | p(X0).",
         };
         for (int i = 0; i < texts.length; i += 2) {
-            due(texts[i], allShown(prover(texts[i])), texts[i + 1]);
+            due(texts[i], CountedProver.of(texts[i]).allShown(), texts[i + 1]);
         }
-        due("one that stands nowhere", prover("? X : a.").count(11), 3);
-        due("one that stays", prover("! X : a.").count(11), 2);
+        due("one that stands nowhere", CountedProver.of("? X : a.").count(11), 3);
+        due("one that stays", CountedProver.of("! X : a.").count(11), 2);
     }
 
     private static void out() {
-        promise = 11;
-        ClauseProver p = prover("ab.");
+        says("promise 11");
+        CountedProver p = CountedProver.of("ab.");
         dueThrow("out(0) before show", () -> p.out(0), INDEX);
         p.show(0);
         due("out(0)", p.out(0), 'a');
@@ -573,47 +360,39 @@ public final class PromiseTests {
         dueThrow("out(-1)", () -> p.out(-1), INDEX);
     }
 
-    private static String symbols(ClauseProver p) {
-        StringBuilder text = new StringBuilder();
-        for (int k = 0; k < p.count(11); k++) {
-            text.append(p.symbol(k, 0)).append(p.symbol(k, 1)).append(p.symbol(k, 2)).append(' ');
-        }
-        return text.toString().trim();
-    }
-
     private static void symbol() {
-        promise = 12;
-        ClauseProver p = prover("p(f(a,b)) & ? X : ! Y : ? Z : q. prove g(X) = a.");
-        due("symbols", symbols(p), "010 110 200 000 000 010 100 001 201 001");
+        says("promise 12");
+        CountedProver p = CountedProver.of("p(f(a,b)) & ? X : ! Y : ? Z : q. prove g(X) = a.");
+        due("symbols", p.symbols(), "010 110 200 000 000 010 100 001 201 001");
         dueThrow("symbol(10, 0)", () -> p.symbol(10, 0), ELEMENT);
         dueThrow("symbol(-1, 0)", () -> p.symbol(-1, 0), ELEMENT);
         dueThrow("symbol(0, 3)", () -> p.symbol(0, 3), ARGUMENT);
         dueThrow("symbol(0, -1)", () -> p.symbol(0, -1), ARGUMENT);
         dueThrow("symbol(10, 3)", () -> p.symbol(10, 3), ELEMENT);
-        due("prove is a name elsewhere", symbols(prover("prove a. prove prove.")), "010 010 010");
-        due("in the order of the variables", symbols(prover("(? Y : p(Y)) & q(X). prove r(Z,X).")), "010 110 110 210 101 001 101");
+        due("prove is a name elsewhere", CountedProver.of("prove a. prove prove.").symbols(), "010 010 010");
+        due("in the order of the variables", CountedProver.of("(? Y : p(Y)) & q(X). prove r(Z,X).").symbols(), "010 110 110 210 101 001 101");
     }
 
     private static void proof() {
-        promise = 13;
-        ClauseProver p = prover("q(a). " + SOCRATES);
+        says("promise 13");
+        CountedProver p = CountedProver.of("q(a). " + SOCRATES);
         due("not yet", p.proof(), 0);
         p.run(2);
         due("not yet", p.proof(), 0);
         due("run", p.run(100), 1);
         due("proof", p.proof(), 5);
-        ClauseProver q = prover("a. b.");
+        CountedProver q = CountedProver.of("a. b.");
         q.run(100);
         due("saturated", q.proof(), 0);
-        ClauseProver r = prover("b. a != a.");
+        CountedProver r = CountedProver.of("b. a != a.");
         r.run(100);
         due("of the text", r.proof(), 1);
         due("its step", r.step(0), 1);
     }
 
     private static void step() {
-        promise = 14;
-        ClauseProver p = prover("q(a). " + SOCRATES);
+        says("promise 14");
+        CountedProver p = CountedProver.of("q(a). " + SOCRATES);
         dueThrow("step(0) before", () -> p.step(0), INDEX);
         p.run(100);
         int[] steps = {1, 2, 3, 4, p.count(0) - 1};
@@ -622,7 +401,7 @@ public final class PromiseTests {
         }
         dueThrow("step(5)", () -> p.step(5), INDEX);
         dueThrow("step(-1)", () -> p.step(-1), INDEX);
-        feedText(p, "a.");
+        p.feedText("a.");
         p.read();
         dueThrow("step(0) after a read", () -> p.step(0), INDEX);
     }
@@ -638,10 +417,10 @@ public final class PromiseTests {
     }
 
     private static void look() {
-        promise = 15;
+        says("promise 15");
         // p is 1, f is 2, a is 3
-        ClauseProver p = prover("p(f(a)). ~p(a).");
-        ClauseProver all = prover("p(f(X)) | a = X.");
+        CountedProver p = CountedProver.of("p(f(a)). ~p(a).");
+        CountedProver all = CountedProver.of("p(f(X)) | a = X.");
         int seen = 0;
         for (int seed = -60; seed < 60; seed++) {
             for (int m = 1; m <= 3; m++) {
@@ -661,53 +440,57 @@ public final class PromiseTests {
         due("some suit", seen > 0 ? 1 : 0, 1);
         dueThrow("look(0, 0)", () -> p.look(0, 0), ARGUMENT);
         dueThrow("look(0, 4)", () -> p.look(0, 4), ARGUMENT);
-        ClauseProver refuted = prover(SOCRATES);
+        CountedProver refuted = CountedProver.of(SOCRATES);
         refuted.run(100);
         due("never", refuted.search(0, 3, 50), -1);
         // nothing that is inferred is false where the text is true
-        ClauseProver group = prover("mul(e,X) = X. mul(i(X),X) = e. mul(mul(X,Y),Z) = mul(X,mul(Y,Z)).");
+        CountedProver group = CountedProver.of("mul(e,X) = X. mul(i(X),X) = e. mul(mul(X,Y),Z) = mul(X,mul(Y,Z)).");
         group.run(60);
         due("one element is a group", group.look(5, 1), 0);
     }
 
-    private static void search() {
-        promise = 16;
-        ClauseProver p = prover("p(f(a)). ~p(a). X = a | X = f(a).");
-        int found = 0;
-        for (int seed = -40; seed < 40; seed++) {
-            int first = -1;
-            for (int i = 49; i >= 0; i--) {
-                first = p.look(seed + i, 2) == 0 ? i : first;
-            }
-            found += first > 0 ? 1 : 0;
-            due("search(" + seed + ", 2, 50)", p.search(seed, 2, 50), first);
-            if (first >= 1) {
-                due("search up to it", p.search(seed, 2, first), -1);
-                due("search with it", p.search(seed, 2, first + 1), first);
-            }
-        }
-        due("some are found", found > 0 ? 1 : 0, 1);
+    private static int firstThatSuits(CountedProver p, int seed) {
         int first = -1;
         for (int i = 49; i >= 0; i--) {
-            first = p.look(Integer.MAX_VALUE - 1 + i, 2) == 0 ? i : first;
+            first = p.look(seed + i, 2) == 0 ? i : first;
         }
-        due("seeds wrap", p.search(Integer.MAX_VALUE - 1, 2, 50), first);
+        return first;
+    }
+
+    private static void search() {
+        says("promise 16");
+        String text = "p(f(a)). ~p(a). X = a | X = f(a).";
+        int found = 0;
+        for (int seed = -40; seed < 40; seed++) {
+            CountedProver at = CountedProver.of(text);
+            int first = firstThatSuits(at, seed);
+            found += first > 0 ? 1 : 0;
+            due("search(" + seed + ", 2, 50)", at.search(seed, 2, 50), first);
+            if (first >= 1) {
+                due("search up to it", at.search(seed, 2, first), -1);
+                due("search with it", at.search(seed, 2, first + 1), first);
+            }
+        }
+        holds("some are found", found > 0);
+        CountedProver p = CountedProver.of(text);
+        int last = Integer.MAX_VALUE - 1;
+        due("seeds wrap", p.search(last, 2, 50), firstThatSuits(p, last));
         dueThrow("search(0, 0, 1)", () -> p.search(0, 0, 1), ARGUMENT);
         dueThrow("search(0, 4, 1)", () -> p.search(0, 4, 1), ARGUMENT);
         dueThrow("search(0, 1, 0)", () -> p.search(0, 1, 0), ARGUMENT);
         dueThrow("search(0, 1, 51)", () -> p.search(0, 1, 51), ARGUMENT);
-        due("no clauses", prover("").search(9, 1, 1), 0);
+        due("no clauses", CountedProver.of("").search(9, 1, 1), 0);
     }
 
-    private static void counts(ClauseProver p, int... due) {
+    private static void counts(CountedProver p, int... due) {
         for (int what = 0; what < due.length; what++) {
             due("count(" + what + ")", p.count(what), due[what]);
         }
     }
 
     private static void count() {
-        promise = 17;
-        ClauseProver p = fed(SOCRATES);
+        says("promise 17");
+        CountedProver p = CountedProver.fed(SOCRATES);
         due("the tape", p.count(12), 59);
         p.read();
         counts(p, 3, 3, 3, 0, 0, 0, 0, 0, 0, 0, 0, 4, 0, 0);
@@ -725,77 +508,77 @@ public final class PromiseTests {
 
     /** What the INFERENCES of a TEXT whose CLAUSES are all processed in their order give. */
     private static void inferences() {
-        promise = 6;
-        ClauseProver p = prover("p(X) | p(f(Y)) | X = Y.");
+        says("promise 6");
+        CountedProver p = CountedProver.of("p(X) | p(f(Y)) | X = Y.");
         p.run(1);
         // self-superposition from and into each eligible side, and factoring of p(X) with p(f(Y))
-        due("a factor", shown(p, p.count(0) - 1), "f(X0) = X0 | p(f(X0))");
+        due("a factor", p.shown(p.count(0) - 1), "f(X0) = X0 | p(f(X0))");
         due("from", p.clause(p.count(0) - 1, 0), 3);
-        ClauseProver q = prover("f(X) != f(a) | p(X).");
+        CountedProver q = CountedProver.of("f(X) != f(a) | p(X).");
         q.run(1);
-        due("resolution", allShown(q), "f(X0) != f(a) | p(X0). p(a).");
-        due("from", facts(q, 1), "2 0 -1 1 3 0 0 0");
-        ClauseProver r = prover("f(X,b) = X | q. g(f(a,Y)) = Y.");
+        due("resolution", q.allShown(), "f(X0) != f(a) | p(X0). p(a).");
+        due("from", q.facts(1), "2 0 -1 1 3 0 0 0");
+        CountedProver r = CountedProver.of("f(X,b) = X | q. g(f(a,Y)) = Y.");
         r.run(2);
-        due("superposition", shown(r, 2), "q | g(a) = b");
-        ClauseProver met = prover("q | f(Z,Z,Z,Z) = a. p(f(g(k(c)),g(X),g(X),g(X))).");
+        due("superposition", r.shown(2), "q | g(a) = b");
+        CountedProver met = CountedProver.of("q | f(Z,Z,Z,Z) = a. p(f(g(k(c)),g(X),g(X),g(X))).");
         met.run(2);
-        due("a value that is met again", shown(met, 2), "q | p(a)");
-        ClauseProver within = prover("q | f(Z,Z) = a. p(f(X,g(X))).");
+        due("a value that is met again", met.shown(2), "q | p(a)");
+        CountedProver within = CountedProver.of("q | f(Z,Z) = a. p(f(X,g(X))).");
         within.run(2);
         due("no term is within itself", within.count(0), 2);
-        due("no variable is for a predicate", prover("X = a. p(b). ~q(b).").run(100), 2);
+        due("no variable is for a predicate", CountedProver.of("X = a. p(b). ~q(b).").run(100), 2);
         // p of TERMS of weight 1, 3, 7, .. 63 within the BOUNDS; each is a tautology with itself
-        ClauseProver s = prover("p(X) => p(f(X,X)). p(a).");
+        CountedProver s = CountedProver.of("p(X) => p(f(X,X)). p(a).");
         due("saturated", s.run(100), 2);
         counts(s, 7, 2, 0, 7, 7, 12, 1, 0, 0, 6);
     }
 
     private static void simplification() {
-        promise = 6;
-        ClauseProver p = prover("p(a) | q. p(X).");
+        says("promise 6");
+        CountedProver p = CountedProver.of("p(a) | q. p(X).");
         p.run(1);
         due("p(X) first", p.clause(1, 6), 1);
         p.run(1);
         due("a tautology by rewriting", p.count(9), 2);
         due("none is made", p.count(0), 2);
-        ClauseProver s = prover("~p(a) | ~q(b). ~p(X). ~q(b) | ~p(a) | r.");
+        CountedProver s = CountedProver.of("~p(a) | ~q(b). ~p(X). ~q(b) | ~p(a) | r.");
         s.run(2);
         due("~p(X) subsumes the first", s.count(7), 1);
         due("it is gone", s.clause(0, 6), 2);
         s.run(1);
         due("and the last", s.count(7), 2);
-        ClauseProver back = prover("~p(f(a)). f(X) = X.");
+        CountedProver back = CountedProver.of("~p(f(a)). f(X) = X.");
         back.run(2);
         due("f(X) = X is processed", back.clause(1, 6), 1);
         due("so ~p(f(a)) is passive or gone", back.clause(0, 6) == 1 ? 1 : 0, 0);
-        ClauseProver later = prover("~p(a,f(a)). q(f(f(b))) | r. g(f(X),X,X) = g(X,X,X).");
+        CountedProver later = CountedProver.of("~p(a,f(a)). q(f(f(b))) | r. g(f(X),X,X) = g(X,X,X).");
         later.run(3);
         due("no side matches", later.clause(0, 6), 1);
-        ClauseProver again = prover("~p(f(a)). f(f(X)) != c. f(X) = g(X,X,X).");
+        CountedProver again = CountedProver.of("~p(f(a)). f(f(X)) != c. f(X) = g(X,X,X).");
         again.run(3);
         due("a smaller side does not rewrite", again.clause(0, 6), 1);
-        ClauseProver both = prover("~p(f(a,b)). f(X,Y) = f(Y,X).");
+        CountedProver both = CountedProver.of("~p(f(a,b)). f(X,Y) = f(Y,X).");
         both.run(2);
         due("f(a,b) is not greater than f(b,a)", both.clause(0, 6), 1);
-        ClauseProver turned = prover("~p(f(b,a)). p(f(b,a)) | q(a,b). f(X,Y) = f(Y,X).");
+        CountedProver turned = CountedProver.of("~p(f(b,a)). p(f(b,a)) | q(a,b). f(X,Y) = f(Y,X).");
         turned.run(3);
         due("p 1, f 2, b 3, a 4: nor f(b,a) than f(a,b)", turned.clause(0, 6), 1);
     }
 
     private static void sixtyTimes() {
-        promise = 6;
-        ClauseProver p = prover("f(X) = X. p(" + times("f(", 30) + "c" + times(")", 30) + ","
+        says("promise 6");
+        CountedProver p = CountedProver.of("f(X) = X. p(" + times("f(", 30) + "c" + times(")", 30) + ","
             + times("f(", 31) + "c" + times(")", 31) + ").");
         p.run(2);
-        due("after sixty times", shown(p, 2), "p(c,f(c))");
+        due("after sixty times", p.shown(2), "p(c,f(c))");
         due("sixty", p.count(8), 60);
         due("one did it all", p.clause(2, 7), 1);
     }
 
     private static void full() {
-        promise = 6;
-        ClauseProver p = prover("ap(ap(ap(s,X),Y),Z) = ap(ap(X,Z),ap(Y,Z)). ap(ap(k,X),Y) = X."
+        says("promise 6");
+        CountedProver p = CountedProver.of("ap(ap(ap(s,X),Y),Z) = ap(ap(X,Z),ap(Y,Z)). ap(ap(k,X),Y) = X."
             + " prove ? X : ! Y : ap(X,Y) = ap(Y,ap(X,Y)).");
         int state = 0;
         for (int i = 0; i < 40 && state == 0; i++) {
@@ -810,7 +593,7 @@ public final class PromiseTests {
         due("inferences", p.count(5), inferences);
         dueThrow("clause(2000, 0)", () -> p.clause(2000, 0), ELEMENT);
         due("no proof", p.proof(), 0);
-        feedText(p, SOCRATES);
+        p.feedText(SOCRATES);
         due("read", p.read(), 3);
         due("run", p.run(100), 1);
     }
