@@ -29,6 +29,11 @@ final class CountedProver {
         return this;
     }
 
+    /** How many calls are left to be made. */
+    int left() {
+        return MOST_CALLS - calls;
+    }
+
     private ClauseProver next() {
         calls++;
         if (calls > MOST_CALLS && !beyond) {

@@ -20,6 +20,8 @@ public final class PromiseTests extends Checks {
         clause();
         rewrote();
         literal();
+        greaterSides();
+        eligibleOnes();
         show();
         clausesOfFormulas();
         witnesses();
@@ -114,6 +116,9 @@ public final class PromiseTests extends Checks {
         due("no fault", p.fault(0), 0);
         due("open", p.count(10), 0);
         due("tautologies are none", CountedProver.of("a | ~a. b = b. c.").count(1), 1);
+        due("with sides changed", CountedProver.of("b = c | a | c != b. b = c | b != c. f(X) = X | X != f(X).").count(1), 0);
+        due("only the same TERMS", CountedProver.of("b = c | c != d. f(X) = Y | Y != f(Y). p(X) | ~p(Y).").count(1), 3);
+        due("reduced before", CountedProver.of("b != b | b = c | c = b | b != b | p(Y,X) | c = b.").allShown(), "b = c | p(X0,X1).");
         due("names that begin alike", CountedProver.of("ab. a. abc. ab. a_. aB.").count(11), 6);
         cut("abc.", 2, 2);
         cut("a => b.", 3, 3);
@@ -284,6 +289,57 @@ public final class PromiseTests extends Checks {
         dueThrow("literal(0, 2, 4)", () -> q.literal(0, 2, 4), ELEMENT);
         q.run(100);
         due("whatever the state", q.literals(0), "1202 1212");
+    }
+
+    /** Which side of the first LITERAL is GREATER. The NAMES before it fix their order: a 1, b 2, k 3, f 4, g 5. */
+    private static void greater(String equation, int side) {
+        CountedProver p = CountedProver.of("a = b. k(a) = a. f(a,a) = a. g(a,a) = a. " + equation + ".");
+        due(equation, p.literal(4, 0, 1), side);
+    }
+
+    private static void greaterSides() {
+        says("promise 9: GREATER");
+        greater("f(X,X) = k(X)", 1);
+        greater("k(X) = f(X,X)", 2);
+        greater("f(X,Y) = k(Y)", 1);
+        greater("f(X,Y) = k(k(X))", 1);
+        greater("k(k(k(X))) = f(X,Y)", 0);
+        greater("f(X,a) = f(Y,a)", 0);
+        greater("f(X,X) = g(X,Y)", 0);
+        greater("f(X,Y) = g(Y,X)", 2);
+        greater("k(X) = X", 1);
+        greater("X = k(X)", 2);
+        greater("X = k(Y)", 0);
+        greater("X = a", 0);
+        greater("X = Y", 0);
+        greater("k(k(a)) = k(b)", 1);
+        greater("b = a", 1);
+        greater("k(a) = k(b)", 2);
+        greater("f(a,b) = f(b,a)", 2);
+        greater("f(X,b) = f(X,a)", 1);
+        greater("f(X,Y) = f(Y,X)", 0);
+        greater("f(X,a) = f(a,X)", 0);
+        greater("f(k(X),X) = f(X,k(X))", 1);
+        greater("f(X,k(X)) = f(k(X),X)", 2);
+        greater("f(k(X),Y) = f(X,k(Y))", 1);
+        greater("f(k(X),Y) = f(Y,k(X))", 0);
+        greater("f(k(k(a)),a) = f(k(a),k(b))", 1);
+        greater("f(f(a,b),X) = f(f(b,a),X)", 2);
+        greater("k(f(X,a)) = k(f(X,b))", 2);
+        greater("p", 1);
+        greater("~p(X)", 1);
+    }
+
+    private static void eligibleOnes() {
+        says("promise 9: ELIGIBLE");
+        CountedProver p = CountedProver.of("a = b | a = c. a = c | b = c. p | q | r. s(X) | t(Y). f(X) = a | f(a) = X.");
+        due("c is GREATER than b", p.literals(0), "1202 1212");
+        due("b than a, as c goes", p.literals(1), "1202 1212");
+        due("the last NAME", p.literals(2), "1102 1102 1112");
+        due("with other VARIABLES", p.literals(3), "1113 1113");
+        due("neither", p.literals(4), "1113 1013");
+        p = CountedProver.of("p | ~q(a) | ~r(a) | s(a,a).");
+        due("the first != of the heaviest alone", p.literals(0), "1102 0113 0103 1104");
     }
 
     private static void show() {

@@ -6,17 +6,19 @@ import java.nio.file.Path;
 import java.util.ArrayList;
 import java.util.Collections;
 import java.util.List;
-import java.util.NoSuchElementException;
 
 /**
  * Replays written runs, *.txt in the folder that is named, against new objects. A line is a call, or
  * a group of calls that belong together, and behind " = " what is due. The answers come from a
  * second prover, written another way by the same reader of the document: it shows slips of the
  * program, but not a passage that was read wrongly for both.
+ *
+ * <p>An object is asked no more than 512 times: a longer run goes on with a new one, for which the
+ * lines that change something are done again.
  */
-public final class ReplayRuns {
-    private static int wrong = 0;
-    private static int checked = 0;
+public final class ReplayRuns extends Checks {
+    private static final List<String> changes = new ArrayList<>();
+    private static CountedProver prover = new CountedProver();
 
     private ReplayRuns() {
     }
@@ -39,39 +41,57 @@ public final class ReplayRuns {
         for (Path file : files) {
             replay(file);
         }
-        if (checked == 0) {
-            System.out.println("no run was found");
-            wrong++;
-        }
-        System.out.println(checked + " answers were looked at, " + wrong + " are wrong");
-        System.exit(wrong == 0 ? 0 : 1);
+        finish();
     }
 
     private static void replay(Path file) throws IOException {
-        ClauseProver prover = new ClauseProver();
         int number = 0;
         for (String line : Files.readAllLines(file, StandardCharsets.ISO_8859_1)) {
             number++;
-            if (line.isEmpty() || line.startsWith("#")) {
-                continue;
-            }
+            says(file + ":" + number);
             if (line.equals("new")) {
-                prover = new ClauseProver();
-                continue;
+                changes.clear();
+                prover = new CountedProver();
+            } else if (!line.isEmpty() && !line.startsWith("#")) {
+                replayLine(line);
             }
-            if (line.startsWith("text ")) {
-                feedText(prover, unescape(line.substring(5)));
-                continue;
+        }
+    }
+
+    private static void replayLine(String line) {
+        int cut = line.indexOf(" = ");
+        boolean changing = line.startsWith("text ") || line.startsWith("read ") || line.startsWith("run ");
+        // more than a line can need: a call feeds 20 bytes, and else tells a sign of the line or one of a few others
+        int calls = line.startsWith("text ") ? line.length() / 20 + 10 : line.length() + 40;
+        if (prover.left() < calls) {
+            prover = new CountedProver();
+            for (String change : changes) {
+                change(change);
             }
-            int cut = line.indexOf(" = ");
-            String call = line.substring(0, cut);
-            String due = line.substring(cut + 3);
-            String got = answer(prover, call);
-            checked++;
-            if (!got.equals(due)) {
-                wrong++;
-                System.out.println(file + ":" + number + ": " + call + " answered " + got + ", due is " + due);
-            }
+        }
+        if (line.startsWith("text ")) {
+            change(line);
+        } else {
+            due(line.substring(0, cut), answer(line.substring(0, cut)), line.substring(cut + 3));
+        }
+        if (changing) {
+            changes.add(line);
+        } else if (line.startsWith("clauses ")) {
+            // OUT is what was shown last
+            changes.removeIf(change -> change.startsWith("clauses "));
+            changes.add(line);
+        }
+    }
+
+    /** Does a line again without a look at its answer. */
+    private static void change(String line) {
+        if (line.startsWith("text ")) {
+            prover.end(0);
+            prover.feedText(unescape(line.substring(5)));
+        } else if (line.startsWith("clauses ")) {
+            prover.show(Integer.parseInt(line.split(" ")[1]));
+        } else {
+            answer(line.substring(0, line.indexOf(" = ")));
         }
     }
 
@@ -89,44 +109,20 @@ public final class ReplayRuns {
         return plain.toString();
     }
 
-    static void feedText(ClauseProver prover, String text) {
-        int[] numbers = new int[5];
-        for (int i = 0; i < text.length(); i += 20) {
-            for (int j = 0; j < 5; j++) {
-                numbers[j] = 0;
-                for (int k = i + 4 * j; k < i + 4 * j + 4; k++) {
-                    numbers[j] = numbers[j] << 8 | (k < text.length() ? text.charAt(k) : 0);
-                }
-            }
-            prover.feed(numbers[0], numbers[1], numbers[2], numbers[3], numbers[4]);
-        }
-        prover.end(text.length());
-    }
-
-    private static String answer(ClauseProver p, String call) {
+    private static String answer(String call) {
         String[] words = call.split(" ");
         int[] a = new int[words.length - 1];
         for (int i = 0; i < a.length; i++) {
             a[i] = Integer.parseInt(words[i + 1]);
         }
         try {
-            return words[0].endsWith("s") ? group(p, words[0], a) : String.valueOf(single(p, words[0], a));
-        } catch (IllegalStateException e) {
-            return "IllegalStateException";
-        } catch (NoSuchElementException e) {
-            return "NoSuchElementException";
-        } catch (IllegalArgumentException e) {
-            return "IllegalArgumentException";
-        } catch (ArrayIndexOutOfBoundsException e) {
-            return e.toString();
-        } catch (IndexOutOfBoundsException e) {
-            return "IndexOutOfBoundsException";
-        } catch (RuntimeException | StackOverflowError e) {
-            return e.toString();
+            return words[0].endsWith("s") ? group(words[0], a) : String.valueOf(single(prover, words[0], a));
+        } catch (RuntimeException e) {
+            return e.getClass().getSimpleName();
         }
     }
 
-    private static int single(ClauseProver p, String name, int[] a) {
+    private static int single(CountedProver p, String name, int[] a) {
         switch (name) {
             case "feed": return p.feed(a[0], a[1], a[2], a[3], a[4]);
             case "end": return p.end(a[0]);
@@ -149,53 +145,40 @@ public final class ReplayRuns {
     }
 
     /** Calls that belong together, their answers with blanks between. */
-    private static String group(ClauseProver p, String name, int[] a) {
-        StringBuilder answers = new StringBuilder();
+    private static String group(String name, int[] a) {
         switch (name) {
-            case "faults":
-                answers.append(p.fault(0)).append(' ').append(p.fault(1));
-                break;
-            case "counts":
-                for (int what = 0; what < 14; what++) {
-                    answers.append(what == 0 ? "" : " ").append(p.count(what));
-                }
-                break;
-            case "clauses":
-                describe(p, a[0], answers);
-                break;
-            case "symbols":
-                for (int k = 0; k < p.count(11); k++) {
-                    answers.append(p.symbol(k, 0)).append(p.symbol(k, 1)).append(p.symbol(k, 2)).append(' ');
-                }
-                break;
-            case "proofs":
-                for (int i = 0; i < p.proof(); i++) {
-                    answers.append(p.step(i)).append(' ');
-                }
-                break;
-            default:
-                throw new IllegalArgumentException(name);
+            case "faults": return prover.fault(0) + " " + prover.fault(1);
+            case "counts": return prover.counts();
+            case "clauses": return described(a[0]);
+            case "symbols": return prover.symbols();
+            case "proofs": return steps();
+            default: throw new IllegalArgumentException(name);
         }
-        return answers.toString().trim();
     }
 
-    private static void describe(ClauseProver p, int k, StringBuilder answers) {
-        for (int what = 0; what < 8; what++) {
-            answers.append(p.clause(k, what)).append(' ');
+    private static String steps() {
+        StringBuilder answers = new StringBuilder();
+        int length = prover.proof();
+        for (int i = 0; i < length; i++) {
+            answers.append(i > 0 ? " " : "").append(prover.step(i));
         }
-        answers.append('[');
-        for (int i = 0; i < p.clause(k, 7); i++) {
-            answers.append(p.rewrote(k, i)).append(' ');
+        return answers.toString();
+    }
+
+    private static String described(int k) {
+        StringBuilder answers = new StringBuilder();
+        answers.append(prover.facts(k)).append(" [");
+        int rewriters = prover.clause(k, 7);
+        for (int i = 0; i < rewriters; i++) {
+            answers.append(prover.rewrote(k, i)).append(' ');
         }
         answers.append("] ");
-        for (int i = 0; i < p.clause(k, 3); i++) {
+        int literals = prover.clause(k, 3);
+        for (int i = 0; i < literals; i++) {
             for (int what = 0; what < 4; what++) {
-                answers.append(p.literal(k, i, what)).append(what < 3 ? "," : " ");
+                answers.append(prover.literal(k, i, what)).append(what < 3 ? "," : " ");
             }
         }
-        int length = p.show(k);
-        for (int i = 0; i < length; i++) {
-            answers.append((char) p.out(i));
-        }
+        return answers.append(prover.shown(k)).toString();
     }
 }

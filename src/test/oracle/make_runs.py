@@ -520,7 +520,9 @@ def by_chance():
         log.call('literal', rand.randint(-1, last), rand.randint(-1, 3), rand.randint(-1, 4))
         log.call('symbol', rand.randint(-1, 9), rand.randint(-1, 3))
         log.call('step', rand.randint(-1, 5))
-    for _ in range(300):
+    for i in range(300):
+        if i % 20 == 0:
+            log.new()
         log.text(spoilt(rand, a_text(rand)))
         log.call('read')
         log.faults()
