@@ -560,6 +560,7 @@ public final class PromiseTests extends Checks {
         counts(p, 5, 3, 0, 3, 5, 3, 0, 0, 1, 2, 1, 4);
         due("count(-1)", p.count(-1), -1);
         due("count(14)", p.count(14), -1);
+        due("TAUTOLOGIES of the TEXT are not counted", CountedProver.of("a | ~a. b = b.").counts(), "0 0 0 0 0 0 0 0 0 0 0 3 0 0");
     }
 
     /** What the INFERENCES of a TEXT whose CLAUSES are all processed in their order give. */

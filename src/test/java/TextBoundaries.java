@@ -30,6 +30,7 @@ public final class TextBoundaries extends Checks {
         threeHundredVariables();
         twentyThousandWords();
         twentyThousandComeLast();
+        twentyThousandOfEachText();
         heightTwoHundred();
         heightOfOtherThings();
         twoHundredClauses();
@@ -563,6 +564,18 @@ public final class TextBoundaries extends Checks {
         beyondCalls(start + "b|", 3, start.length() + 1);
         beyondCalls(start + "f", 2, start.length());
         beyondCalls(start + "b", 1, start.length() + 1);
+    }
+
+    private static void twentyThousandOfEachText() {
+        says("3 the 20,001st WORD or sign: of this TEXT, whatever was read before");
+        CountedProver p = new CountedProver().goBeyond();
+        String most = longSentences(100) + times("b.", 50);
+        for (int i = 0; i < 2; i++) {
+            p.feedText(most);
+            fault(p, most, 0, 0);
+            p.feedText(most + "b.");
+            fault(p, most + "b.", 3, most.length());
+        }
     }
 
     private static String bound(String sign, int n) {
