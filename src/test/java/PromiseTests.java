@@ -397,6 +397,19 @@ public final class PromiseTests extends Checks {
             "? X Y : p(Y,X).", "p(w1(w0),w0).",
             "a <=> ! X : ? Y : p(X,Y).", "~a | p(X0,w1(X0)). ~p(w0,X0) | a.",
             "(? X : p(X)) | p(X).", "p(w0(X0)) | p(X0).",
+            "~ (! X : p(X)).", "~p(w0).",
+            "~ (? X : p(X)).", "~p(X0).",
+            "~ ~ ? X : p(X).", "p(w0).",
+            "(! X : p(X)) => q.", "~p(w0) | q.",
+            "(? X : p(X)) => q.", "~p(X0) | q.",
+            "q => ? X : p(X).", "~q | p(w0).",
+            "q => ! X : p(X).", "~q | p(X0).",
+            "~ ((? X : p(X)) => ? Y : q(Y)).", "p(w0). ~q(X0).",
+            "(! X : p(X)) & q => r.", "~p(w0) | ~q | r.",
+            "~ ((! X : p(X)) | q).", "~p(w0). ~q.",
+            "~ ((! X : p(X)) <=> q).", "p(X0) | q. ~p(w0) | ~q.",
+            "~ (~ (? X : p(X)) <=> q).", "~p(X0) | q. p(w0) | ~q.",
+            "(! X : p(X)) <=> ? Y : q(Y).", "~p(w0) | q(w1). ~q(X0) | p(X1).",
         };
         for (int i = 0; i < texts.length; i += 2) {
             due(texts[i], CountedProver.of(texts[i]).allShown(), texts[i + 1]);

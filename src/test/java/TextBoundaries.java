@@ -28,6 +28,8 @@ public final class TextBoundaries extends Checks {
         nestedComesFirst();
         twoHundredFiftyNames();
         threeHundredVariables();
+        threeHundredWithoutSigns();
+        ofEachText();
         twentyThousandWords();
         twentyThousandComeLast();
         twentyThousandOfEachText();
@@ -518,6 +520,40 @@ public final class TextBoundaries extends Checks {
         fault(bound + "Y @", 3, end);
         // where no VARIABLE can stand it is no VARIABLE of the TEXT
         fault(bound + "a Y", 1, end + 2);
+    }
+
+    private static void threeHundredWithoutSigns() {
+        says("3 a 301st bound VARIABLE: three hundred without ! and ?");
+        String most = times("q(A,B,C,D,E,F). ", 50);
+        fault(most, 0, 0);
+        fault(most + "q(A).", 3, most.length() + 2);
+        fault(most + "q(a,A).", 3, most.length() + 4);
+        fault(most + "prove r(A).", 3, most.length() + 8);
+    }
+
+    private static void ofEachText() {
+        says("a 251st NAME, a 301st bound VARIABLE, the 201st CLAUSE: of this TEXT, whatever was read before");
+        String[] most = {manyNames(250), manyBound(300), times("q(A,B,C,D,E,F). ", 50), times("a.", 200)};
+        CountedProver p = new CountedProver();
+        for (String text : most) {
+            for (int i = 0; i < 2; i++) {
+                p.feedText(text);
+                fault(p, text, 0, 0);
+            }
+        }
+        CountedProver q = new CountedProver();
+        for (String text : most) {
+            q.feedText(text + "! X Y : n0 @");
+            q.read();
+            holds("a FAULT", q.fault(0) > 0);
+            q.feedText(text);
+            fault(q, text, 0, 0);
+        }
+        q.feedText("! X : p(X @");
+        q.read();
+        q.feedText("p(X) & ! Y : ? X : p(f(X)). p(X).");
+        due("read", q.read(), 3);
+        due("VARIABLES are its own, too", q.allShown(), "p(X0). p(f(w0(X0,X1))). p(X0).");
     }
 
     /** Each is of 199 WORDS and signs, weighs 100, and is one CLAUSE. */
