@@ -25,6 +25,7 @@ public final class TextBoundaries extends Checks {
         nestedSixtyDeep();
         nestedInAllWays();
         notNested();
+        nestedAgain();
         nestedComesFirst();
         twoHundredFiftyNames();
         threeHundredVariables();
@@ -430,6 +431,19 @@ public final class TextBoundaries extends Checks {
         fault("! " + times("X ", 100) + ": " + times("~", 60) + "a.", 3, 264);
     }
 
+    private static void nestedAgain() {
+        says("nested more than 60 deep: also behind what is closed again");
+        String[] before = {"b & ", "b | ", "b <=> ", "b & c & d & ", "b | c | d | ", "b & c | d & ", "b => c <=> ", "~b & ", "~~~b | ",
+            "(b) & ", "((b)) <=> ", "(b & c) | ", "(b | c) & ", "(b <=> c) & ", "(b => c => d) & ", "(! X : b) | ", "(? X Y : ~b) & ",
+            "(~(b | ~c) & b) | ", "q(c0) & ", "q(f(f(c0))) | ", "f(c0) = f(f(c0)) & ", "b. ", "b & (c | d). ", "~b => c. ", "! X : ? Y : b. "};
+        for (String start : before) {
+            fault(start + times("~", 60) + "@", 1, start.length() + 60);
+            fault(start + times("~", 61) + "@", 3, start.length() + 61);
+            fault(start + times("(", 61) + "a", 3, start.length() + 61);
+            fault(start + "p(" + times("f(", 60) + "c0", 3, start.length() + 122);
+        }
+    }
+
     private static void nestedComesFirst() {
         says("the place of its first WORD or sign, whatever stands there, the end, too: 3 comes before 1");
         String[] whatever = {"", ".", ")", "@", "=", "X", "b", ": a", "!", times("a", 32), "\u00ff", "prove", "\n"};
@@ -549,8 +563,10 @@ public final class TextBoundaries extends Checks {
             q.feedText(text);
             fault(q, text, 0, 0);
         }
-        q.feedText("! X : p(X @");
+        q.feedText("! X : (a => ~~~~~p(X @");
         q.read();
+        q.feedText(times("~", 60) + "a.");
+        due("nothing is open from before", q.read(), 1);
         q.feedText("p(X) & ! Y : ? X : p(f(X)). p(X).");
         due("read", q.read(), 3);
         due("VARIABLES are its own, too", q.allShown(), "p(X0). p(f(w0(X0,X1))). p(X0).");
