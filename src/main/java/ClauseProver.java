@@ -813,9 +813,6 @@ public final class ClauseProver {
 
         /** Finds the VARIABLES that are replaced somewhere, and makes their SYMBOLS. */
         void makeWitnesses() {
-            for (int v = 0; v < variables; v++) {
-                replaced[v] = false;
-            }
             for (int s = 0; s < sentences.size; s += SENTENCE) {
                 boolean prove = sentences.at[s + PROVE] == 1;
                 reach(sentences.at[s + ROOT], prove ? 1 : 2);
@@ -902,7 +899,6 @@ public final class ClauseProver {
                 if (get(root, HEIGHT) > HIGHEST || made > MOST_TEXT_CLAUSES) {
                     return sentences.at[s + PLACE];
                 }
-                replaceFree(s, !truth);
                 for (int i = 0; i < clausesOf(root, truth); i++) {
                     writeClause(draft, root, truth, i);
                     if (draft.beyond) {
@@ -1233,7 +1229,6 @@ public final class ClauseProver {
         private boolean takeSign() {
             boolean closed = true;
             for (int i = 0; i < FAR && closed; i++) {
-                fold(strength(NOT));
                 closed = words.isNow(CLOSE_SIGN) && closeBracket();
             }
             int kind = words.excess ? BAD : words.kind;
