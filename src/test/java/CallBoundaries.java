@@ -295,6 +295,14 @@ public final class CallBoundaries extends Checks {
             CountedProver q = CountedProver.of("q(a) | ? X : q(X). f(a,b) != b.");
             due("as a new object goes on", p.run(100) + p.allShown() + p.counts(), q.run(100) + q.allShown() + q.counts());
         }
+        CountedProver busy = CountedProver.of("f(X) = X. p(f(c)). ~q(X) | ~r. ~q(c) | ~r. a0|a1|a2|a3|a4|a5|a6|a7.");
+        busy.run(100);
+        for (int what = 0; what < 12; what++) {
+            holds("count(" + what + ") is more than 0", busy.count(what) > 0 || what == 2);
+        }
+        busy.feedText("b0.");
+        busy.read();
+        due("all of it begins anew", busy.counts(), "1 1 1 0 0 0 0 0 0 0 0 2 0 0");
         says("read: of an empty TAPE");
         CountedProver p = run(100);
         p.end(0);
@@ -608,9 +616,31 @@ public final class CallBoundaries extends Checks {
             }
         }
         holds("some are true, some not", trueOnes > 0 && trueOnes < 300);
+        pairsAndTriples();
         CountedProver empty = CountedProver.of("a != a.");
         for (int seed = 0; seed < 100; seed++) {
             due("the empty one", empty.look(seed, 1 + seed % 3), -1);
+        }
+    }
+
+    /** Each pair of ELEMENTS, and each triple, is the only one that is not true for some seed. */
+    private static void pairsAndTriples() {
+        for (int seed = 0; seed < 100; seed++) {
+            CountedProver pair = CountedProver.of("p(X,Y) | q(Y,X).");
+            CountedProver triple = CountedProver.of("p(X,Y,Z) | q(Z,Y,X) | r(Y,X).");
+            for (int m = 1; m <= 3; m++) {
+                boolean pairs = true;
+                boolean triples = true;
+                for (int way = 0; way < m * m * m; way++) {
+                    int x = way % m;
+                    int y = way / m % m;
+                    int z = way / m / m;
+                    pairs &= isOdd(seed, 1, x, y) || isOdd(seed, 2, y, x);
+                    triples &= isOdd(seed, 1, x, y, z) || isOdd(seed, 2, z, y, x) || isOdd(seed, 3, y, x);
+                }
+                due("pairs, look(" + seed + ", " + m + ")", pair.look(seed, m), pairs ? 0 : -1);
+                due("triples, look(" + seed + ", " + m + ")", triple.look(seed, m), triples ? 0 : -1);
+            }
         }
     }
 
