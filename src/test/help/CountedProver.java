@@ -1,3 +1,6 @@
+import java.lang.reflect.InvocationTargetException;
+import java.lang.reflect.Method;
+
 /**
  * A ClauseProver that counts its calls. What an object answers after its 512th call is free, so a test
  * that goes on unawares is stopped; one that must go on says so with goBeyond.
@@ -40,6 +43,11 @@ final class CountedProver {
             throw new AssertionError("a test calls one object more than 512 times");
         }
         return prover;
+    }
+
+    /** Any call of the face. */
+    Object call(Method method, Object[] arguments) throws IllegalAccessException, InvocationTargetException {
+        return method.invoke(next(), arguments);
     }
 
     int feed(int a, int b, int c, int d, int e) {
