@@ -1746,9 +1746,10 @@ public final class ClauseProver {
         private int valued;
         private int firstBase;
         private int secondBase;
-        /** In which unification a slot met a TERM: to do so again could take exponential time. */
-        private final int[] meetings = new int[SLOTS * 2 * CLAUSE_CELLS];
-        private int unification;
+        /** Has a slot met a TERM before: to do so again could take exponential time. */
+        private final boolean[] met = new boolean[SLOTS * 2 * CLAUSE_CELLS];
+        /** Where met is true: these alone are undone, as there are billions of unifications. */
+        private final Row meetings = new Row(16);
 
         Unifier(Symbols symbols, Row cells) {
             this.symbols = symbols;
@@ -1764,7 +1765,10 @@ public final class ClauseProver {
             valued = 0;
             firstBase = firstStart;
             secondBase = secondStart;
-            unification++;
+            for (int i = 0; i < meetings.size; i++) {
+                met[meetings.at[i]] = false;
+            }
+            meetings.size = 0;
         }
 
         private boolean unite(int p, int pShift, int q, int qShift, int depth) {
@@ -1822,11 +1826,12 @@ public final class ClauseProver {
             }
             int half = shift == 0 ? 0 : 1;
             int at = (2 * x + half) * CLAUSE_CELLS + p - (shift == 0 ? firstBase : secondBase);
-            if (at >= 0 && at < meetings.length) {
-                if (meetings[at] == unification) {
+            if (at >= 0 && at < met.length) {
+                if (met[at]) {
                     return true;
                 }
-                meetings[at] = unification;
+                met[at] = true;
+                meetings.add(at);
             }
             return unite(place[x], shifts[x], p, shift, depth + 1);
         }

@@ -37,6 +37,11 @@ final class CountedProver {
         return MOST_CALLS - calls;
     }
 
+    /** The object itself, for a test that looks inside of it. */
+    ClauseProver bare() {
+        return prover;
+    }
+
     private ClauseProver next() {
         calls++;
         if (calls > MOST_CALLS && !beyond) {
